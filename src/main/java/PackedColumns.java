@@ -981,6 +981,7 @@ public final class PackedColumns {
                 rows[level + 1].becomeTurned(rows[level], turnAt(path, level));
                 putHead(out, rows[level], rows[level + 1], turnAt(path, level));
             }
+            rows[last].arrange();
             putInnermost(out, rows[last], turnAt(path, last));
             for (int level = last - 1; level >= 0; level--) {
                 if (turnAt(path, level) == RUNS) {
@@ -1020,6 +1021,7 @@ public final class PackedColumns {
             if (turn == NARROW) {
                 putNarrow(out, row);
             } else if (turn == PATCHED) {
+                patch.fit(row);
                 putPatched(out, row);
             } else {
                 putPlain(out, row);
@@ -1046,8 +1048,6 @@ public final class PackedColumns {
         }
 
         private void putPatched(Bytes out, Row row) {
-            row.arrange();
-            patch.fit(row);
             out.put(PATCHED);
             out.putVarint(unsignedOf(patch.base()));
             out.put(patch.width());
@@ -1477,7 +1477,7 @@ public final class PackedColumns {
         }
 
         boolean isApart(long from, long upTo) {
-            return present == 0 || from > upTo || greatest < from || least > upTo;
+            return present == 0 || greatest < from || least > upTo;
         }
 
         boolean isWithin(long from, long upTo) {
