@@ -883,9 +883,7 @@ public final class PackedColumns {
         }
 
         void packInto(Piece piece, Block block, int depth, int limit) {
-            ways.empty();
-            rows[0].gather(block);
-            explore(ways, 0, depth, 0, bytesAround(block), 0);
+            survey(ways, block, depth);
             int k = ways.firstWithin(limit);
             writer.write(block, ways.pathAt(k), piece.bytes());
             piece.describe(block, ways.pathAt(k), ways.workAt(k));
@@ -897,6 +895,7 @@ public final class PackedColumns {
             explore(front, 0, depth, 0, bytesAround(block), 0);
         }
 
+        /** The mark, how many rows, whether some are missing (and which ones), and the check. */
         private int bytesAround(Block block) {
             return 4 + (block.present() < block.size() ? layingLength(block.size(), 1) : 0);
         }
