@@ -34,6 +34,7 @@ public final class PromiseTest {
         readForms();
         faults();
         faultAnswers();
+        farNumbers();
         System.out.println(wrong == 0 ? "all answers are as due" : wrong + " answers are wrong");
         System.exit(wrong == 0 ? 0 : 1);
     }
@@ -981,5 +982,59 @@ public final class PromiseTest {
         loaded(x, 0, checked("C1 03 00 01 0A 02 24"));
         due("without", x.fault(0), 0);
         due("its place", x.fault(1), NONE);
+    }
+
+    /** Numbers as far out as can be: all are refused, and nothing is thrown or changed. */
+    private static void farNumbers() {
+        PackedColumns x = new PackedColumns();
+        repeat(x, 40, 5L);
+        x.front(0, 0);
+        int[] far = {Integer.MIN_VALUE, Integer.MIN_VALUE + 1, -1000000, -1, 1000000, Integer.MAX_VALUE - 1,
+            Integer.MAX_VALUE};
+        for (int n : far) {
+            String of = " of " + n;
+            for (promise = 1; promise <= 24; promise++) {
+                for (int place = 0; place < 7; place++) {
+                    farCall(x, n, place, of);
+                }
+            }
+        }
+        promise = 1;
+        due("rows are as they were", x.count(0, 0), 40);
+        due("values are as they were", x.sum(0, Long.MIN_VALUE, Long.MAX_VALUE), 200);
+        due("missing ones are as they were", x.count(0, 2), 0);
+    }
+
+    private static void farCall(PackedColumns x, int n, int place, String of) {
+        int a = place == 0 ? n : 0;
+        int b = place == 1 ? n : 0;
+        int c = place == 2 ? n : 0;
+        boolean two = place < 2;
+        boolean three = place < 3;
+        switch (promise) {
+            case 3 -> no("end" + of, x.end(n));
+            case 4 -> no("way" + of, x.way(a, b, three && place == 2 ? n : place > 2 ? 0 : 100));
+            case 5 -> due("value" + of, x.value(n, 1L), NONE);
+            case 6 -> due("missing" + of, x.missing(n), NONE);
+            case 7 -> due("sow" + of, x.sow(a, place == 1 ? n : 1, 0, n, n, place > 1 ? n == 1000000 ? 0 : n : 1, n),
+                    NONE);
+            case 8 -> due("set" + of, two ? x.set(a, b, n) : NONE, NONE);
+            case 9 -> due("pack" + of, x.pack(n), NONE);
+            case 10 -> due("clear" + of, x.clear(n), NONE);
+            case 11 -> due("count" + of, two ? x.count(a, b) : NONE, NONE);
+            case 12 -> due("has" + of, two ? x.has(a, b) : NONE, NONE);
+            case 13 -> due("get" + of, two ? x.get(a, b) : 0, 0);
+            case 14 -> due("piece" + of, three ? x.piece(a, b, c) : NONE, NONE);
+            case 15 -> due("at" + of, three ? x.at(a, b, c) : NONE, NONE);
+            case 16 -> due("code" + of, three ? x.code(a, b, c) : NONE, NONE);
+            case 17 -> due("front" + of, two ? x.front(a, b) : NONE, NONE);
+            case 18 -> due("pair" + of, two ? x.pair(a, b) : NONE, NONE);
+            case 19 -> due("among" + of, x.among(n, 0L, 1L), NONE);
+            case 20 -> due("sum" + of, x.sum(n, 0L, 9L), 0);
+            case 22 -> due("take" + of, two ? x.take(a, b) : NONE, NONE);
+            case 23 -> due("load" + of, x.load(n), -2);
+            case 24 -> due("fault" + of, x.fault(n), NONE);
+            default -> { }
+        }
     }
 }
