@@ -242,7 +242,8 @@ public final class PackedColumns {
         faultPlace = NONE;
         Column found = columnOf(column);
         int answer = REFUSED_LOAD;
-        if (found != null && !reader.read(tape, loaded)) {
+        // The bytes are read whatever the column is: a fault in them stands ahead of a column that is none.
+        if (!reader.read(tape, loaded)) {
             faultKind = reader.kindOfFault();
             faultPlace = reader.placeOfFault();
             answer = NONE;

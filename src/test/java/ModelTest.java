@@ -1105,9 +1105,6 @@ public final class ModelTest {
             tape.clear();
             kind = 0;
             place = -1;
-            if (of(c) == null) {
-                return -2;
-            }
             Reading reading = new Reading(bytes);
             List<Long> read;
             try {
@@ -1118,7 +1115,7 @@ public final class ModelTest {
                 return -1;
             }
             ModelColumn column = of(c);
-            if (column.rows.size() + read.size() > 160) {
+            if (column == null || column.rows.size() + read.size() > 160) {
                 return -2;
             }
             if (column.rows.size() % 32 != 0) {

@@ -776,6 +776,10 @@ public final class PromiseTest {
         no("the tape went", x.end(1));
         lay(x, three);
         due("column -1", x.load(-1), -2);
+        loadOfNoColumn(-1, three);
+        loadOfNoColumn(4, three);
+        loadOfNoColumn(Integer.MIN_VALUE, three);
+        loadOfNoColumn(Integer.MAX_VALUE, three);
         due("three rows", loaded(x, 0, three), 3);
         no("the tape went", x.end(1));
         due("load of no byte", x.load(0), NONE);
@@ -795,6 +799,29 @@ public final class PromiseTest {
         due("the last piece is packed", x.piece(0, 4, 4), 0);
         due("full", loaded(x, 0, three), -2);
         due("a fault ahead of it", loaded(x, 0, three + " 00"), -1);
+    }
+
+    /** The bytes are read ahead of the column: with a fault it is -1, whatever the column is. */
+    private static void loadOfNoColumn(int column, String sound) {
+        PackedColumns x = new PackedColumns();
+        String of = " in column " + column;
+        due("no byte" + of, x.load(column), -1);
+        due("its fault", x.fault(0), 1);
+        due("its place", x.fault(1), 0);
+        due("sound bytes" + of, loaded(x, column, sound), -2);
+        due("no fault", x.fault(0), 0);
+        due("no place", x.fault(1), NONE);
+        due("another first byte" + of, loaded(x, column, "C2 03"), -1);
+        due("its fault", x.fault(0), 2);
+        due("its place", x.fault(1), 0);
+        no("the tape went", x.end(1));
+        due("a turn that is none" + of, loaded(x, column, checked("C1 01 00 07")), -1);
+        due("its fault", x.fault(0), 3);
+        due("its place", x.fault(1), 3);
+        due("a byte behind the check" + of, loaded(x, column, sound + " 00"), -1);
+        due("its fault", x.fault(0), 4);
+        due("its place", x.fault(1), 8);
+        due("rows of column 0", x.count(0, 0), 0);
     }
 
     private static void loadKeepsOrUnpacks() {
@@ -982,6 +1009,12 @@ public final class PromiseTest {
         loaded(x, 0, checked("C1 03 00 01 0A 02 24"));
         due("without", x.fault(0), 0);
         due("its place", x.fault(1), NONE);
+        loaded(x, 4, "C1 21");
+        due("with no such column, too", x.fault(0), 2);
+        due("its place", x.fault(1), 1);
+        loaded(x, 4, checked("C1 03 00 01 0A 02 24"));
+        due("without again", x.fault(0), 0);
+        due("its place", x.fault(1), NONE);
     }
 
     /** Numbers as far out as can be: all are refused, and nothing is thrown or changed. */
@@ -1032,7 +1065,10 @@ public final class PromiseTest {
             case 19 -> due("among" + of, x.among(n, 0L, 1L), NONE);
             case 20 -> due("sum" + of, x.sum(n, 0L, 9L), 0);
             case 22 -> due("take" + of, two ? x.take(a, b) : NONE, NONE);
-            case 23 -> due("load" + of, x.load(n), -2);
+            case 23 -> {
+                due("load" + of, loaded(x, n, checked("C1 03 00 01 0A 02 24")), -2);
+                due("load of no byte" + of, x.load(n), -1);
+            }
             case 24 -> due("fault" + of, x.fault(n), NONE);
             default -> { }
         }
