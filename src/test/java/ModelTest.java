@@ -10,8 +10,8 @@ import java.util.TreeSet;
  * rows themselves, writes a row by every way there is, byte by byte, and only then picks one.
  */
 public final class ModelTest {
-    private static final int RUNS = 260;
-    private static final int CALLS = 500;
+    private static final int RUNS = 400;
+    private static final int MOST_CALLS_OF_A_STEP = 80;
     private static int wrong = 0;
 
     public static void main(String[] args) {
@@ -22,31 +22,34 @@ public final class ModelTest {
         System.exit(wrong == 0 ? 0 : 1);
     }
 
-    /** Two stores that are called alike. */
+    /** A store and the model, called alike. */
     private static final class Run {
         final int number;
         final Random random;
-        final PackedColumns tried = new PackedColumns();
+        final Store tried = new Store();
         final Model model = new Model();
-        int calls = 0;
 
         Run(int number) {
             this.number = number;
             this.random = new Random(7919L * number + 13);
         }
 
-        void due(String call, long got, long want) {
-            calls++;
+        void due(long got, long want) {
             if (got != want && wrong < 20) {
                 wrong++;
-                System.out.println("run " + number + ", call " + calls + ": " + call + " answered " + got + ", due is "
-                        + want);
+                System.out.println("run " + number + ", call " + tried.calls() + ": " + Store.latest + " answered " + got
+                        + ", due is " + want);
             }
+        }
+
+        boolean hasRoomFor(int calls) {
+            return tried.calls() + calls <= Store.MOST_CALLS && wrong < 20;
         }
 
         void go() {
             int kind = number % 5;
-            while (calls < CALLS && wrong < 20) {
+            int left = number % 3 == 0 ? 300 : MOST_CALLS_OF_A_STEP;
+            while (hasRoomFor(left)) {
                 int r = random.nextInt(100);
                 if (kind == 4 && r < 60) {
                     loadSomething();
@@ -119,8 +122,7 @@ public final class ModelTest {
             int spread = random.nextInt(8) == 0 ? random.nextInt() : 1 + random.nextInt(random.nextBoolean() ? 5 : 3000);
             spread = random.nextInt(30) == 0 ? 1000000 + random.nextInt(2) : spread;
             long by = random.nextBoolean() ? number() : 1L;
-            due("sow(" + c + ", " + n + ", " + seed + ", " + first + ", " + step + ", " + spread + ", " + by + ")",
-                    tried.sow(c, n, seed, first, step, spread, by), model.sow(c, n, seed, first, step, spread, by));
+            due(tried.sow(c, n, seed, first, step, spread, by), model.sow(c, n, seed, first, step, spread, by));
         }
 
         void addRows() {
@@ -135,9 +137,9 @@ public final class ModelTest {
             int n = 1 + random.nextInt(34);
             for (int i = 0; i < n; i++) {
                 if (random.nextInt(shape == 0 ? 2 : 15) == 0) {
-                    due("missing(" + c + ")", tried.missing(c), model.missing(c));
+                    due(tried.missing(c), model.missing(c));
                 } else {
-                    due("value(" + c + ", " + v + ")", tried.value(c, v), model.value(c, v));
+                    due(tried.value(c, v), model.value(c, v));
                 }
                 v = shape == 1 ? v + other : shape == 2 && random.nextInt(5) > 0 ? v
                         : shape == 3 ? (random.nextBoolean() ? v : other) : shape == 4 ? random.nextInt(100) : number();
@@ -150,7 +152,7 @@ public final class ModelTest {
             for (int i = 0; i < n; i++) {
                 int r = row(c);
                 long v = random.nextInt(4) == 0 ? model.get(c, r) : number();
-                due("set(" + c + ", " + r + ", " + v + ")", tried.set(c, r, v), model.set(c, r, v));
+                due(tried.set(c, r, v), model.set(c, r, v));
             }
         }
 
@@ -169,27 +171,27 @@ public final class ModelTest {
                 b = x;
             }
             if (random.nextBoolean()) {
-                due("among(" + c + ", " + a + ", " + b + ")", tried.among(c, a, b), model.among(c, a, b));
+                due(tried.among(c, a, b), model.among(c, a, b));
             } else {
-                due("sum(" + c + ", " + a + ", " + b + ")", tried.sum(c, a, b), model.sum(c, a, b));
+                due(tried.sum(c, a, b), model.sum(c, a, b));
             }
-            due("looked()", tried.looked(), model.looked());
+            due(tried.looked(), model.looked());
         }
 
         void load() {
             int c = column();
-            due("load(" + c + ")", tried.load(c), model.load(c));
-            due("fault(0)", tried.fault(0), model.fault(0));
-            due("fault(1)", tried.fault(1), model.fault(1));
+            due(tried.load(c), model.load(c));
+            due(tried.fault(0), model.fault(0));
+            due(tried.fault(1), model.fault(1));
         }
 
         void takeAndLoad() {
             int c = column();
             int p = pieceOf(c);
-            due("take(" + c + ", " + p + ")", tried.take(c, p), model.take(c, p));
+            due(tried.take(c, p), model.take(c, p));
             if (random.nextInt(4) == 0) {
                 int n = random.nextInt(60) - 3;
-                due("end(" + n + ")", tried.end(n) ? 1 : 0, model.end(n) ? 1 : 0);
+                due(tried.end(n) ? 1 : 0, model.end(n) ? 1 : 0);
             }
             if (random.nextInt(8) == 0) {
                 feedOnce(random.nextInt(), random.nextInt(), random.nextInt(), random.nextInt(), random.nextInt());
@@ -198,14 +200,13 @@ public final class ModelTest {
         }
 
         void feedOnce(int a, int b, int c, int d, int e) {
-            due("feed(" + a + ", " + b + ", " + c + ", " + d + ", " + e + ")", tried.feed(a, b, c, d, e),
-                    model.feed(a, b, c, d, e));
+            due(tried.feed(a, b, c, d, e), model.feed(a, b, c, d, e));
         }
 
         /** Bytes of a piece that is written in some way, most often with a byte that is another one. */
         void loadSomething() {
             List<Integer> bytes = new Forger(random).forge();
-            due("end(0)", tried.end(0) ? 1 : 0, model.end(0) ? 1 : 0);
+            due(tried.end(0) ? 1 : 0, model.end(0) ? 1 : 0);
             int fed = 0;
             for (int i = 0; i < bytes.size() && fed + 20 <= 300; i += 20) {
                 int[] n = new int[5];
@@ -217,30 +218,30 @@ public final class ModelTest {
                 fed += 20;
             }
             int length = Math.min(fed, bytes.size());
-            due("end(" + length + ")", tried.end(length) ? 1 : 0, model.end(length) ? 1 : 0);
+            due(tried.end(length) ? 1 : 0, model.end(length) ? 1 : 0);
             load();
             if (random.nextInt(3) == 0) {
                 int c = column();
-                due("clear(" + c + ")", tried.clear(c), model.clear(c));
+                due(tried.clear(c), model.clear(c));
             }
         }
 
         void rare() {
             int c = column();
             if (random.nextInt(3) == 0) {
-                due("clear(" + c + ")", tried.clear(c), model.clear(c));
+                due(tried.clear(c), model.clear(c));
             } else {
-                due("pack(" + c + ")", tried.pack(c), model.pack(c));
+                due(tried.pack(c), model.pack(c));
             }
         }
 
         void front() {
             int c = column();
             int p = pieceOf(c);
-            due("front(" + c + ", " + p + ")", tried.front(c, p), model.front(c, p));
+            due(tried.front(c, p), model.front(c, p));
             for (int k = -1; k < model.shown.size() + 1; k++) {
                 int what = random.nextInt(20) == 0 ? random.nextInt(5) - 2 : random.nextInt(2);
-                due("pair(" + k + ", " + what + ")", tried.pair(k, what), model.pair(k, what));
+                due(tried.pair(k, what), model.pair(k, what));
             }
         }
 
@@ -250,14 +251,14 @@ public final class ModelTest {
             int r = row(c);
             int what = random.nextInt(8) - 1;
             int i = random.nextInt(60) - 1;
-            due("piece(" + c + ", " + p + ", " + what + ")", tried.piece(c, p, what), model.piece(c, p, what));
-            due("count(" + c + ", " + what + ")", tried.count(c, what), model.count(c, what));
-            due("at(" + c + ", " + p + ", " + i + ")", tried.at(c, p, i), model.at(c, p, i));
-            due("code(" + c + ", " + p + ", " + i % 5 + ")", tried.code(c, p, i % 5), model.code(c, p, i % 5));
-            due("has(" + c + ", " + r + ")", tried.has(c, r), model.has(c, r));
-            due("get(" + c + ", " + r + ")", tried.get(c, r), model.get(c, r));
-            due("fault(" + what + ")", tried.fault(what), model.fault(what));
-            due("looked()", tried.looked(), model.looked());
+            due(tried.piece(c, p, what), model.piece(c, p, what));
+            due(tried.count(c, what), model.count(c, what));
+            due(tried.at(c, p, i), model.at(c, p, i));
+            due(tried.code(c, p, i % 5), model.code(c, p, i % 5));
+            due(tried.has(c, r), model.has(c, r));
+            due(tried.get(c, r), model.get(c, r));
+            due(tried.fault(what), model.fault(what));
+            due(tried.looked(), model.looked());
         }
 
         void choose() {
@@ -265,31 +266,35 @@ public final class ModelTest {
             int depth = random.nextInt(10) == 0 ? random.nextInt(9) - 4 : random.nextInt(3);
             int limit = random.nextInt(10) == 0 ? random.nextInt(1100) - 50
                     : random.nextBoolean() ? 32 + random.nextInt(100) : 1000;
-            due("way(" + c + ", " + depth + ", " + limit + ")", tried.way(c, depth, limit) ? 1 : 0,
-                    model.way(c, depth, limit) ? 1 : 0);
+            due(tried.way(c, depth, limit) ? 1 : 0, model.way(c, depth, limit) ? 1 : 0);
         }
 
+        /** As much as the store has calls left for, from another column on in each run. */
         void lookAtAll() {
-            for (int c = 0; c < 4; c++) {
-                for (int what = 0; what < 4; what++) {
-                    due("count(" + c + ", " + what + ")", tried.count(c, what), model.count(c, what));
-                }
-                for (int r = 0; r < model.count(c, 0); r++) {
-                    due("has(" + c + ", " + r + ")", tried.has(c, r), model.has(c, r));
-                    due("get(" + c + ", " + r + ")", tried.get(c, r), model.get(c, r));
+            for (int i = 0; i < 4; i++) {
+                int c = (number + i) % 4;
+                for (int what = 0; what < 4 && hasRoomFor(1); what++) {
+                    due(tried.count(c, what), model.count(c, what));
                 }
                 for (int p = 0; p < model.count(c, 1); p++) {
-                    for (int what = 0; what < 5; what++) {
-                        due("piece(" + c + ", " + p + ", " + what + ")", tried.piece(c, p, what),
-                                model.piece(c, p, what));
-                    }
-                    for (int i = 0; i < 4; i++) {
-                        due("code(" + c + ", " + p + ", " + i + ")", tried.code(c, p, i), model.code(c, p, i));
-                    }
-                    for (int i = 0; i <= model.piece(c, p, 1); i++) {
-                        due("at(" + c + ", " + p + ", " + i + ")", tried.at(c, p, i), model.at(c, p, i));
-                    }
+                    lookAtPiece(c, p);
                 }
+                for (int r = 0; r < model.count(c, 0) && hasRoomFor(2); r++) {
+                    due(tried.has(c, r), model.has(c, r));
+                    due(tried.get(c, r), model.get(c, r));
+                }
+            }
+        }
+
+        void lookAtPiece(int c, int p) {
+            for (int what = 0; what < 5 && hasRoomFor(1); what++) {
+                due(tried.piece(c, p, what), model.piece(c, p, what));
+            }
+            for (int i = 0; i < 4 && hasRoomFor(1); i++) {
+                due(tried.code(c, p, i), model.code(c, p, i));
+            }
+            for (int i = 0; i <= model.piece(c, p, 1) && hasRoomFor(1); i++) {
+                due(tried.at(c, p, i), model.at(c, p, i));
             }
         }
     }

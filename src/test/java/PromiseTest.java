@@ -1,448 +1,785 @@
-/** Each promise by itself: ordinary calls, the edges that the document names, and calls that are refused. */
-public final class PromiseTest {
-    private static final int NONE = -1;
-    private static int wrong = 0;
-    private static int promise = 0;
-
+/** Promises 1 to 24: each sentence of each of them has a test of its own, the calls that are refused among them. */
+public final class PromiseTest extends Checks {
     public static void main(String[] args) {
         newObject();
         feed();
         end();
         way();
-        value();
-        missing();
+        valueAndMissing();
         sow();
+        sowRefused();
         set();
-        changesEndWithTheFifth();
+        setChanges();
         pack();
         packThenGoOn();
         clear();
         count();
         hasAndGet();
         piece();
-        at();
-        writtenForms();
-        chosenWays();
-        code();
+        atAndCode();
         front();
+        pair();
         among();
         sum();
         looked();
+        lookedByEnds();
         take();
         load();
-        loadKeepsOrUnpacks();
-        readForms();
-        faults();
-        faultAnswers();
+        loadKeeps();
+        loadUnpacks();
+        fault();
         farNumbers();
-        System.out.println(wrong == 0 ? "all answers are as due" : wrong + " answers are wrong");
-        System.exit(wrong == 0 ? 0 : 1);
-    }
-
-    private static void due(String call, long got, long want) {
-        if (got != want) {
-            wrong++;
-            System.out.println("promise " + promise + ": " + call + " answered " + got + ", due is " + want);
-        }
-    }
-
-    private static void yes(String call, boolean got) {
-        due(call, got ? 1 : 0, 1);
-    }
-
-    private static void no(String call, boolean got) {
-        due(call, got ? 1 : 0, 0);
-    }
-
-    private static int[] bytesOf(String hex) {
-        String plain = hex.replace(" ", "");
-        int[] bytes = new int[plain.length() / 2];
-        for (int i = 0; i < bytes.length; i++) {
-            bytes[i] = Integer.parseInt(plain.substring(2 * i, 2 * i + 2), 16);
-        }
-        return bytes;
-    }
-
-    private static String checked(String hex) {
-        int h = 7;
-        for (int b : bytesOf(hex)) {
-            h = (31 * h + b) % 256;
-        }
-        return hex + " " + String.format("%02X", h);
-    }
-
-    private static void lay(PackedColumns x, String hex) {
-        int[] bytes = bytesOf(hex);
-        x.end(0);
-        for (int i = 0; i < bytes.length; i += 20) {
-            int[] n = new int[5];
-            for (int k = 0; k < 20; k++) {
-                n[k / 4] = n[k / 4] << 8 | (i + k < bytes.length ? bytes[i + k] : 0);
-            }
-            x.feed(n[0], n[1], n[2], n[3], n[4]);
-        }
-        yes("end(" + bytes.length + ")", x.end(bytes.length));
-    }
-
-    private static int loaded(PackedColumns x, int column, String hex) {
-        lay(x, hex);
-        return x.load(column);
-    }
-
-    private static PackedColumns with(long... values) {
-        PackedColumns x = new PackedColumns();
-        add(x, values);
-        return x;
-    }
-
-    private static void add(PackedColumns x, long... values) {
-        for (long v : values) {
-            x.value(0, v);
-        }
-    }
-
-    private static void repeat(PackedColumns x, int times, long v) {
-        for (int i = 0; i < times; i++) {
-            x.value(0, v);
-        }
-    }
-
-    /** Piece p of column 0 has these bytes and a check byte behind them. */
-    private static void written(String what, PackedColumns x, int p, String hex) {
-        int[] bytes = bytesOf(checked(hex));
-        due(what + ": bytes", x.piece(0, p, 1), bytes.length);
-        for (int i = 0; i < bytes.length; i++) {
-            due(what + ": at(0, " + p + ", " + i + ")", x.at(0, p, i), bytes[i]);
-        }
-        due(what + ": at behind the last", x.at(0, p, bytes.length), NONE);
-    }
-
-    private static void coded(String what, PackedColumns x, int p, int... code) {
-        for (int i = 0; i < code.length; i++) {
-            due(what + ": code(0, " + p + ", " + i + ")", x.code(0, p, i), code[i]);
-        }
-        due(what + ": code behind the last", x.code(0, p, code.length), NONE);
+        finish();
     }
 
     private static void newObject() {
-        promise = 1;
-        PackedColumns x = new PackedColumns();
-        due("NONE", PackedColumns.NONE, -1);
-        for (int c = 0; c < 4; c++) {
-            for (int what = 0; what < 4; what++) {
-                due("count(" + c + ", " + what + ")", x.count(c, what), 0);
+        says("The constants: NONE = -1", () -> due("NONE", PackedColumns.NONE, -1));
+        says("1 Empty COLUMNS", () -> {
+            Store x = new Store();
+            for (int c = 0; c < 4; c++) {
+                for (int what = 0; what < 4; what++) {
+                    due(x.count(c, what), 0);
+                }
+                due(x.has(c, 0), NONE);
+                due(x.get(c, 0), 0L);
+                due(x.piece(c, 0, 0), NONE);
+                due(x.set(c, 0, 1L), NONE);
+                due(x.front(c, 0), NONE);
+                due(x.take(c, 0), NONE);
+                due(x.among(c, LEAST, GREATEST), 0);
+                due(x.sum(c, LEAST, GREATEST), 0L);
+                due(x.pack(c), 0);
+                due(x.clear(c), 0);
             }
-            due("has", x.has(c, 0), NONE);
-            due("piece", x.piece(c, 0, 0), NONE);
-            due("front", x.front(c, 0), NONE);
-            due("among", x.among(c, Long.MIN_VALUE, Long.MAX_VALUE), 0);
-            due("sum", x.sum(c, Long.MIN_VALUE, Long.MAX_VALUE), 0);
-            due("pack", x.pack(c), 0);
-            due("clear", x.clear(c), 0);
-        }
-        yes("end(0)", x.end(0));
-        no("end(1)", x.end(1));
-        PackedColumns other = new PackedColumns();
-        other.value(0, 5L);
-        due("another object's rows", x.count(0, 0), 0);
+        });
+        says("1 Empty COLUMNS: the tape, too", () -> taped(new Store(), 0));
+        says("1 Empty COLUMNS: of each object", () -> {
+            Store x = with(5L);
+            x.feed(1, 2, 3, 4, 5);
+            Store other = new Store();
+            due(other.count(0, 0), 0);
+            taped(other, 0);
+            rows(x, 0, 5L);
+        });
     }
 
     private static void feed() {
-        promise = 2;
-        PackedColumns x = new PackedColumns();
-        for (int i = 1; i <= 15; i++) {
-            due("feed", x.feed(i, i, i, i, i), 20 * i);
-        }
-        due("feed beyond 300", x.feed(1, 2, 3, 4, 5), NONE);
-        no("end(301)", x.end(301));
-        yes("end(281)", x.end(281));
-        due("feed to 301", x.feed(1, 2, 3, 4, 5), NONE);
-        no("end(282)", x.end(282));
-        yes("end(280)", x.end(280));
-        due("feed to 300", x.feed(1, 2, 3, 4, 5), 300);
-        x.end(0);
-        int[] b = bytesOf(checked("C1 01 00 00 01 02 03 04 05 06 07 F8"));
-        x.feed(0xC1010000, 0x01020304, 0x050607F8, b[12] << 24, 0);
-        x.end(13);
-        due("load of what was fed", x.load(0), 1);
-        due("get", x.get(0, 0), 0x01020304050607F8L);
-        due("feed after load", x.feed(0, 0, 0, 0, 0), 20);
+        says("2 Twenty bytes come behind those on the tape, of each number the highest first", () -> {
+            Store x = new Store();
+            due(x.feed(0xC1040000, 0x80018283, 0x04050607, 0x08FEFDFC, 0x0B0C0D0E), 20);
+            due(x.feed(0x0F101112, 0x13141516, 0x1718191A, 0x1B1C1D1E, 0x1F202122), 40);
+            x.end(36);
+            String hex = "C1 04 00 00 80 01 82 83 04 05 06 07 08 FE FD FC 0B 0C 0D 0E 0F 10 11 12 13 14 15 16"
+                    + " 17 18 19 1A 1B 1C 1D 1E";
+            int check = checkOf(hex);
+            due(x.feed(check << 24, 0, 0, 0, 0), 56);
+            x.end(37);
+            due(x.load(0), 4);
+            rows(x, 0, 0x8001828304050607L, 0x08FEFDFC0B0C0D0EL, 0x0F10111213141516L, 0x1718191A1B1C1D1EL);
+        });
+        says("2 feed: how many there are: up to 300", () -> {
+            Store x = new Store();
+            for (int i = 1; i <= 15; i++) {
+                due(x.feed(i, i, i, i, i), 20 * i);
+            }
+        });
+        says("2 feed: NONE, doing nothing, if there would be more than 300: at 300", () -> {
+            Store x = new Store();
+            lay(x, THREE + times(292, "00"));
+            due(x.feed(1, 2, 3, 4, 5), NONE);
+            taped(x, 300);
+            x.end(8);
+            due(x.load(0), 3);
+            rows(x, 0, 5L, 6L, 7L);
+        });
+        says("2 feed: NONE, doing nothing, if there would be more than 300: 301 of them", () -> {
+            Store x = new Store();
+            lay(x, times(281, "00"));
+            due(x.feed(1, 2, 3, 4, 5), NONE);
+            taped(x, 281);
+        });
+        says("2 feed: NONE, .. if there would be more than 300: not with 300 of them", () -> {
+            Store x = new Store();
+            lay(x, times(280, "00"));
+            due(x.feed(1, 2, 3, 4, 5), 300);
+            taped(x, 300);
+        });
     }
 
     private static void end() {
-        promise = 3;
-        PackedColumns x = new PackedColumns();
-        x.feed(0xC1020001, 0x0A002A00, 0, 0, 0);
-        no("end(-1)", x.end(-1));
-        no("end(least)", x.end(Integer.MIN_VALUE));
-        no("end(21)", x.end(21));
-        yes("end(20)", x.end(20));
-        yes("end(6)", x.end(6));
-        no("end(7)", x.end(7));
-        due("load of six bytes", x.load(0), NONE);
-        due("fault", x.fault(0), 1);
-        due("its place", x.fault(1), 6);
-        yes("end(0)", x.end(0));
+        says("3 The tape has its first n bytes alone: true", () -> {
+            Store x = new Store();
+            lay(x, THREE + " 00 00 00");
+            yes(x.end(8));
+            taped(x, 8);
+            due(x.load(0), 3);
+        });
+        says("3 The tape has its first n bytes alone: as many as it has, and none", () -> {
+            Store x = new Store();
+            lay(x, THREE);
+            yes(x.end(8));
+            taped(x, 8);
+            yes(x.end(0));
+            taped(x, 0);
+            yes(x.end(0));
+            due(x.feed(0, 0, 0, 0, 0), 20);
+        });
+        says("3 end: false, doing nothing, if it has not so many", () -> {
+            Store x = new Store();
+            no(x.end(1));
+            lay(x, THREE);
+            no(x.end(9));
+            no(x.end(300));
+            no(x.end(Integer.MAX_VALUE));
+            taped(x, 8);
+            due(x.load(0), 3);
+        });
+        says("3 end: false, doing nothing, if .. n is below 0", () -> {
+            Store x = new Store();
+            no(x.end(-1));
+            lay(x, THREE);
+            no(x.end(-1));
+            no(x.end(Integer.MIN_VALUE));
+            taped(x, 8);
+            due(x.load(0), 3);
+        });
+        says("3 end: bytes that went do not come again", () -> {
+            Store x = new Store();
+            lay(x, THREE);
+            yes(x.end(4));
+            no(x.end(8));
+            due(x.feed(0, 0, 0, 0, 0), 24);
+            x.end(8);
+            due(x.load(0), NONE);
+        });
+    }
+
+    /** Rows of column c that are written by other codes at other depths and limits. */
+    private static void sowSteps(Store x, int c) {
+        x.sow(c, 32, 1, 0L, 3L, 1, 0L);
     }
 
     private static void way() {
-        promise = 4;
-        PackedColumns x = new PackedColumns();
-        no("column -1", x.way(-1, 1, 100));
-        no("column 4", x.way(4, 1, 100));
-        no("depth -1", x.way(0, -1, 100));
-        no("depth 3", x.way(0, 3, 100));
-        no("limit 31", x.way(0, 0, 31));
-        no("limit 1001", x.way(0, 0, 1001));
-        x.sow(0, 32, 1, 0L, 3L, 1, 0L);
-        coded("as at first", x, 0, 3, 2);
-        yes("depth 0, limit 1000", x.way(0, 0, 1000));
-        coded("a piece packed before", x, 0, 3, 2);
-        x.sow(0, 32, 1, 0L, 3L, 1, 0L);
-        coded("a piece packed at depth 0", x, 1, 1);
-        x.sow(1, 32, 1, 0L, 3L, 1, 0L);
-        due("another column", x.code(1, 0, 0), 3);
-        yes("depth 2, limit 64", x.way(0, 2, 64));
-        x.sow(0, 32, 1, 0L, 3L, 1, 0L);
-        coded("at limit 64", x, 2, 3, 1);
-        due("its work", x.piece(0, 2, 2), 64);
-        no("refused", x.way(0, 2, 0));
-        yes("limit 32", x.way(0, 2, 32));
-        x.clear(0);
-        x.sow(0, 32, 1, 0L, 3L, 1, 0L);
-        coded("at limit 32, behind clear", x, 0, 1);
-        yes("limit 65", x.way(0, 1, 65));
-        x.pack(0);
-        coded("packed anew", x, 0, 3, 2);
-        for (int c = 0; c < 4; c++) {
-            yes("each column", x.way(c, 2, 1000));
-        }
+        says("4 DEPTH and LIMIT of a COLUMN from now on: true", () -> {
+            Store x = new Store();
+            sowSteps(x, 0);
+            yes(x.way(0, 0, 1000));
+            coded(x, 0, 3, 2);
+            sowSteps(x, 0);
+            coded(x, 1, 1);
+            yes(x.way(0, 2, 64));
+            sowSteps(x, 0);
+            coded(x, 2, 3, 1);
+        });
+        says("4 DEPTH and LIMIT of a COLUMN: of no other", () -> {
+            for (int c = 0; c < 4; c++) {
+                Store x = new Store();
+                yes(x.way(c, 0, 32));
+                for (int other = 0; other < 4; other++) {
+                    sowSteps(x, other);
+                    due(x.code(other, 0, 0), other == c ? 1 : 3);
+                }
+            }
+        });
+        says("4 DEPTH and LIMIT: the least and the greatest of both", () -> {
+            Store x = new Store();
+            yes(x.way(0, 0, 32));
+            yes(x.way(0, 0, 1000));
+            yes(x.way(0, 2, 32));
+            yes(x.way(0, 2, 1000));
+            yes(x.way(3, 1, 33));
+            yes(x.way(3, 1, 999));
+        });
+        says("4 way: false if there is none such", () -> {
+            Store x = new Store();
+            for (int c : NO_COLUMNS) {
+                no(x.way(c, 1, 100));
+            }
+        });
+        says("4 way: false if .. one can't be: a DEPTH; nothing is done", () -> {
+            Store x = new Store();
+            no(x.way(0, -1, 32));
+            no(x.way(0, 3, 32));
+            no(x.way(0, Integer.MIN_VALUE, 32));
+            no(x.way(0, Integer.MAX_VALUE, 32));
+            sowSteps(x, 0);
+            coded(x, 0, 3, 2);
+        });
+        says("4 way: false if .. one can't be: a LIMIT; nothing is done", () -> {
+            Store x = new Store();
+            no(x.way(0, 0, 31));
+            no(x.way(0, 0, 1001));
+            no(x.way(0, 0, 0));
+            no(x.way(0, 0, -32));
+            no(x.way(0, 0, Integer.MIN_VALUE));
+            no(x.way(0, 0, Integer.MAX_VALUE));
+            sowSteps(x, 0);
+            coded(x, 0, 3, 2);
+        });
+        says("4 DEPTH and LIMIT of a COLUMN from now on: behind clear(), too", () -> {
+            Store x = new Store();
+            x.way(0, 2, 32);
+            sowSteps(x, 0);
+            x.clear(0);
+            sowSteps(x, 0);
+            coded(x, 0, 1);
+        });
     }
 
-    private static void value() {
-        promise = 5;
-        PackedColumns x = new PackedColumns();
-        due("column -1", x.value(-1, 1L), NONE);
-        due("column 4", x.value(4, 1L), NONE);
-        for (int i = 0; i < 160; i++) {
-            due("value", x.value(3, i * 1000003L), i);
-            due("open", x.piece(3, i / 32, 4), i % 32 == 31 ? 0 : 1);
-        }
-        due("the 161st", x.value(3, 7L), NONE);
-        due("rows", x.count(3, 0), 160);
-        due("get(3, 159)", x.get(3, 159), 159 * 1000003L);
-        due("another column", x.value(2, Long.MIN_VALUE), 0);
-        due("get(2, 0)", x.get(2, 0), Long.MIN_VALUE);
+    private static void valueAndMissing() {
+        says("5 A ROW more of a COLUMN, with a VALUE: its number: 0 .. 159", () -> {
+            Store x = new Store();
+            for (int i = 0; i < 160; i++) {
+                due(x.value(3, i * 1000003L), i);
+            }
+            for (int i = 0; i < 160; i++) {
+                due(x.get(3, i), i * 1000003L);
+            }
+        });
+        says("5 value: NONE if there is none such", () -> {
+            Store x = new Store();
+            for (int c : NO_COLUMNS) {
+                due(x.value(c, 1L), NONE);
+            }
+        });
+        says("5 value: NONE if .. it has 160; nothing is done", () -> {
+            Store x = full();
+            int bytes = x.count(0, 3);
+            due(x.value(0, 7L), NONE);
+            due(x.value(0, 7L), NONE);
+            due(x.count(0, 0), 160);
+            due(x.count(0, 1), 5);
+            due(x.count(0, 3), bytes);
+            due(x.get(0, 159), 31L);
+            due(x.value(1, 7L), 0);
+        });
+        says("6 A ROW more, MISSING: likewise: its number", () -> {
+            Store x = new Store();
+            for (int i = 0; i < 160; i++) {
+                due(x.missing(0), i);
+            }
+            due(x.count(0, 2), 160);
+            due(x.has(0, 0), 0);
+            due(x.has(0, 159), 0);
+            due(x.get(0, 159), 0L);
+        });
+        says("6 missing: likewise: NONE if there is none such", () -> {
+            Store x = new Store();
+            for (int c : NO_COLUMNS) {
+                due(x.missing(c), NONE);
+            }
+        });
+        says("6 missing: likewise: NONE if .. it has 160; nothing is done", () -> {
+            Store x = full();
+            due(x.missing(0), NONE);
+            due(x.count(0, 0), 160);
+            due(x.count(0, 2), 0);
+            due(x.missing(1), 0);
+        });
     }
 
-    private static void missing() {
-        promise = 6;
-        PackedColumns x = new PackedColumns();
-        due("column -1", x.missing(-1), NONE);
-        due("column 4", x.missing(4), NONE);
-        for (int i = 0; i < 160; i++) {
-            due("missing", x.missing(0), i);
+    /** 160 rows, 0 .. 31 in each piece. */
+    private static Store full() {
+        Store x = new Store();
+        for (int p = 0; p < 5; p++) {
+            x.sow(0, 32, 1, 0L, 1L, 1, 0L);
         }
-        due("the 161st", x.missing(0), NONE);
-        due("value as the 161st", x.value(0, 1L), NONE);
-        due("missing rows", x.count(0, 2), 160);
-        due("has", x.has(0, 77), 0);
-        written("32 missing ones", x, 4, "C1 20 01 FF FF FF FF 00");
-        due("work", x.piece(0, 4, 2), 0);
+        return x;
     }
 
     private static void sow() {
-        promise = 7;
-        PackedColumns x = new PackedColumns();
-        due("column -1", x.sow(-1, 1, 0, 0L, 0L, 1, 0L), NONE);
-        due("column 4", x.sow(4, 1, 0, 0L, 0L, 1, 0L), NONE);
-        due("n 0", x.sow(0, 0, 0, 0L, 0L, 1, 0L), NONE);
-        due("n 65", x.sow(0, 65, 0, 0L, 0L, 1, 0L), NONE);
-        due("spread 0", x.sow(0, 1, 0, 0L, 0L, 0, 0L), NONE);
-        due("spread -1", x.sow(0, 1, 0, 0L, 0L, -1, 0L), NONE);
-        due("spread 1000001", x.sow(0, 1, 0, 0L, 0L, 1000001, 0L), NONE);
-        due("nothing done", x.count(0, 0), 0);
-        due("one", x.sow(0, 1, 0, 5L, 9L, 1000000, 2L), 1);
-        due("g 12345", x.get(0, 0), 5L + 48 * 2);
-        due("g below 0", x.sow(0, 1, 2, 0L, 0L, 1000000, 1L), 2);
-        due("8621261 % 1000000", x.get(0, 1), 621261L);
-        due("two", x.sow(0, 2, 1, 100L, 1000000000L, 7, -1L), 4);
-        due("its first", x.get(0, 2), 100L - 4310654 % 7);
-        due("its second", x.get(0, 3), 1000000100L - ((1103515245 * 1103527590 + 12345) >>> 8) % 7);
-        due("from the greatest long", x.sow(1, 3, 9, Long.MAX_VALUE, 1L, 1, 5L), 3);
-        due("it wraps", x.get(1, 2), Long.MIN_VALUE + 1);
-        due("step wraps", x.sow(1, 4, 9, 0L, Long.MAX_VALUE, 1, 5L), 7);
-        due("3 times the greatest", x.get(1, 6), 3 * Long.MAX_VALUE);
-        due("64", x.sow(0, 64, 3, 0L, 1L, 1, 0L), 68);
-        due("64 more", x.sow(0, 64, 3, 0L, 1L, 1, 0L), 132);
-        due("to 161", x.sow(0, 29, 3, 0L, 1L, 1, 0L), NONE);
-        due("nothing done", x.count(0, 0), 132);
-        due("to 160", x.sow(0, 28, 3, 0L, 1L, 1, 0L), 160);
-        due("the last", x.get(0, 159), 27L);
-        due("one more", x.sow(0, 1, 3, 0L, 1L, 1, 0L), NONE);
-        due("pieces packed", x.piece(0, 4, 4), 0);
+        says("7 n (1 .. 64) ROWS more: how many ROWS there are then", () -> {
+            Store x = new Store();
+            due(x.sow(0, 1, 0, 5L, 9L, 1, 0L), 1);
+            due(x.sow(0, 64, 0, 5L, 9L, 1, 0L), 65);
+            due(x.sow(0, 2, 0, 5L, 9L, 1, 0L), 67);
+            due(x.get(0, 1), 5L);
+            due(x.get(0, 64), 5L + 63 * 9);
+            due(x.get(0, 65), 5L);
+            due(x.get(0, 66), 14L);
+        });
+        says("7 for each g becomes 1103515245 g + 12345 (an int, it wraps; seed at first)", () -> {
+            Store x = new Store();
+            x.sow(0, 3, 0, 0L, 0L, 1000000, 1L);
+            long g = 0;
+            for (int i = 0; i < 3; i++) {
+                g = (1103515245L * g + 12345L) % (1L << 32);
+                due(x.get(0, i), g / 256 % 1000000);
+            }
+        });
+        says("7 (g >>> 8) % spread: of a g below 0, and of a seed at the ends of ints", () -> {
+            Store x = new Store();
+            x.sow(0, 1, 2, 0L, 0L, 1000000, 1L);
+            due(x.get(0, 0), 621261L);
+            x.sow(1, 1, Integer.MIN_VALUE, 0L, 0L, 1000000, 1L);
+            due(x.get(1, 0), (0x80003039L >> 8) % 1000000);
+            x.sow(2, 1, Integer.MAX_VALUE, 0L, 0L, 1000000, 1L);
+            due(x.get(2, 0), ((1103515245L * Integer.MAX_VALUE + 12345L & 0xFFFFFFFFL) >> 8) % 1000000);
+            x.sow(3, 1, -1, 0L, 0L, 1000000, 1L);
+            due(x.get(3, 0), ((-1103515245L + 12345L & 0xFFFFFFFFL) >> 8) % 1000000);
+        });
+        says("7 % spread (1 .. 1000000) times by: 1 leaves none, 1000000 leaves 999999", () -> {
+            Store x = new Store();
+            due(x.sow(0, 64, 7, 0L, 0L, 1, GREATEST), 64);
+            due(x.among(0, 0L, 0L), 64);
+            due(x.sow(1, 1, 7, 5L, 0L, 1000000, -2L), 1);
+            long g = 1103515245L * 7 + 12345 & 0xFFFFFFFFL;
+            due(x.get(1, 0), 5L - 2 * ((g >> 8) % 1000000));
+        });
+        says("7 sow: sums wrap at 64 bits: first and step times its place", () -> {
+            Store x = new Store();
+            x.sow(0, 3, 9, GREATEST, 1L, 1, 5L);
+            rows(x, 0, GREATEST, LEAST, LEAST + 1);
+            x.sow(1, 4, 9, 1L, GREATEST, 1, 5L);
+            rows(x, 1, 1L, LEAST, -1L, GREATEST - 1);
+            x.sow(2, 3, 9, LEAST, LEAST, 1, 5L);
+            rows(x, 2, LEAST, 0L, LEAST);
+        });
+        says("7 sow: sums wrap at 64 bits: times by", () -> {
+            Store x = new Store();
+            x.sow(0, 1, 0, 0L, 0L, 1000000, GREATEST);
+            rows(x, 0, 48L * GREATEST);
+            x.sow(1, 1, 0, GREATEST, 0L, 1000000, 1L);
+            rows(x, 1, LEAST + 47);
+        });
+    }
+
+    private static void sowRefused() {
+        says("7 sow: NONE, doing nothing, if something can't be: n", () -> {
+            Store x = with(5L);
+            for (int n : new int[] {0, 65, -1, -64, Integer.MIN_VALUE, Integer.MAX_VALUE}) {
+                due(x.sow(0, n, 0, 0L, 0L, 1, 0L), NONE);
+            }
+            rows(x, 0, 5L);
+        });
+        says("7 sow: NONE, doing nothing, if something can't be: spread", () -> {
+            Store x = with(5L);
+            for (int spread : new int[] {0, -1, 1000001, Integer.MIN_VALUE, Integer.MAX_VALUE}) {
+                due(x.sow(0, 1, 0, 0L, 0L, spread, 0L), NONE);
+            }
+            rows(x, 0, 5L);
+        });
+        says("7 sow: NONE, doing nothing, if something can't be: the COLUMN", () -> {
+            Store x = with(5L);
+            for (int c : NO_COLUMNS) {
+                due(x.sow(c, 1, 0, 0L, 0L, 1, 0L), NONE);
+            }
+            rows(x, 0, 5L);
+        });
+        says("7 sow: NONE, doing nothing, if .. there would be more than 160", () -> {
+            Store x = new Store();
+            due(x.sow(0, 64, 3, 0L, 1L, 1, 0L), 64);
+            due(x.sow(0, 64, 3, 0L, 1L, 1, 0L), 128);
+            due(x.sow(0, 33, 3, 0L, 1L, 1, 0L), NONE);
+            due(x.sow(0, 64, 3, 0L, 1L, 1, 0L), NONE);
+            due(x.count(0, 0), 128);
+            due(x.count(0, 1), 4);
+            due(x.sow(0, 31, 3, 0L, 1L, 1, 0L), 159);
+            due(x.sow(0, 2, 3, 0L, 1L, 1, 0L), NONE);
+            due(x.piece(0, 4, 4), 1);
+            due(x.sow(0, 1, 3, 0L, 1L, 1, 0L), 160);
+            due(x.sow(0, 1, 3, 0L, 1L, 1, 0L), NONE);
+            due(x.count(0, 0), 160);
+        });
+        says("7 sow: NONE, .. more than 160: not with 160", () -> {
+            Store x = new Store();
+            x.sow(0, 64, 3, 0L, 1L, 1, 0L);
+            x.sow(0, 32, 3, 0L, 1L, 1, 0L);
+            due(x.sow(0, 64, 3, 0L, 1L, 1, 0L), 160);
+            due(x.piece(0, 4, 4), 0);
+        });
+        says("7 sow: NONE, doing nothing: a packed PIECE stays so", () -> {
+            Store x = packed(5L, 6L, 7L);
+            due(x.sow(0, 65, 0, 0L, 0L, 1, 0L), NONE);
+            due(x.sow(0, 1, 0, 0L, 0L, 0, 0L), NONE);
+            due(x.piece(0, 0, 4), 0);
+            written(x, 0, "C1 03 00 01 0A 02 24");
+        });
     }
 
     private static void set() {
-        promise = 8;
-        PackedColumns x = new PackedColumns();
-        due("no row", x.set(0, 0, 1L), NONE);
-        x.value(0, 1L);
-        x.missing(0);
-        due("column -1", x.set(-1, 0, 1L), NONE);
-        due("column 4", x.set(4, 0, 1L), NONE);
-        due("row -1", x.set(0, -1, 1L), NONE);
-        due("row 2", x.set(0, 2, 1L), NONE);
-        due("of an open piece", x.set(0, 0, 8L), 0);
-        due("a missing one of it", x.set(0, 1, 9L), 0);
-        due("get", x.get(0, 0), 8L);
-        due("get", x.get(0, 1), 9L);
-        due("missing ones", x.count(0, 2), 0);
-        x.missing(0);
-        x.sow(0, 29, 1, 0L, 1L, 1, 0L);
-        int bytes = x.piece(0, 0, 1);
-        due("of a packed piece", x.set(0, 31, -7L), 1);
-        due("the same row", x.set(0, 31, -8L), 1);
-        due("a missing one", x.set(0, 2, 4L), 2);
-        due("to what it is", x.set(0, 0, 8L), 3);
-        due("changes", x.piece(0, 0, 3), 3);
-        due("get 31", x.get(0, 31), -8L);
-        due("get 2", x.get(0, 2), 4L);
-        due("has 2", x.has(0, 2), 1);
-        due("missing ones", x.count(0, 2), 0);
-        due("bytes are as they were", x.piece(0, 0, 1), bytes);
-        due("the row behind the last", x.set(0, 32, 1L), NONE);
+        says("8 A ROW has a VALUE from now on: of an OPEN PIECE: no CHANGE", () -> {
+            Store x = with(1L, 2L);
+            due(x.set(0, 0, 8L), 0);
+            due(x.set(0, 1, LEAST), 0);
+            rows(x, 0, 8L, LEAST);
+            due(x.piece(0, 0, 3), 0);
+            due(x.piece(0, 0, 4), 1);
+        });
+        says("8 A ROW has a VALUE from now on: also one that was MISSING: in an OPEN PIECE", () -> {
+            Store x = new Store();
+            x.missing(0);
+            due(x.set(0, 0, 0L), 0);
+            rows(x, 0, 0L);
+            due(x.count(0, 2), 0);
+        });
+        says("8 A ROW has a VALUE from now on: also one that was MISSING: in a PACKED PIECE", () -> {
+            Store x = new Store();
+            gaps(x, 0, 32);
+            due(x.set(0, 31, 0L), 1);
+            due(x.has(0, 31), 1);
+            due(x.get(0, 31), 0L);
+            due(x.has(0, 30), 0);
+            due(x.count(0, 2), 31);
+            due(x.among(0, LEAST, GREATEST), 1);
+        });
+        says("8 A ROW has a VALUE from now on: of a PACKED PIECE, its bytes are as they were", () -> {
+            Store x = full();
+            due(x.set(0, 0, GREATEST), 1);
+            due(x.set(0, 159, LEAST), 1);
+            due(x.get(0, 0), GREATEST);
+            due(x.get(0, 159), LEAST);
+            due(x.get(0, 1), 1L);
+            written(x, 0, "C1 20 00 03 02 02 00 01 00 00");
+        });
+        says("8 set: NONE if there is none such: a ROW", () -> {
+            Store x = with(1L, 2L);
+            due(x.set(0, 2, 9L), NONE);
+            due(x.set(0, 31, 9L), NONE);
+            due(x.set(0, 32, 9L), NONE);
+            due(x.set(1, 0, 9L), NONE);
+            for (int far : FAR) {
+                due(x.set(0, far, 9L), NONE);
+            }
+            x.pack(0);
+            due(x.set(0, 2, 9L), NONE);
+            due(x.piece(0, 0, 3), 0);
+            rows(x, 0, 1L, 2L);
+        });
+        says("8 set: NONE if there is none such: a COLUMN", () -> {
+            Store x = with(1L);
+            for (int c : NO_COLUMNS) {
+                due(x.set(c, 0, 9L), NONE);
+            }
+            rows(x, 0, 1L);
+        });
     }
 
-    private static void changesEndWithTheFifth() {
-        promise = 8;
-        PackedColumns x = new PackedColumns();
-        repeat(x, 32, 5L);
-        x.way(0, 0, 1000);
-        for (int i = 0; i < 4; i++) {
-            due("change", x.set(0, 8 * i, 6L), i + 1);
-        }
-        written("until the fifth", x, 0, "C1 20 00 01 0A 00");
-        due("a changed row again", x.set(0, 24, 7L), 4);
-        due("the fifth", x.set(0, 1, 8L), 0);
-        written("packed anew", x, 0, "C1 20 00 01 0A 02 0D 00 01 00 01 00 02 00");
-        due("changes", x.piece(0, 0, 3), 0);
-        due("get 24", x.get(0, 24), 7L);
-        due("get 1", x.get(0, 1), 8L);
-        due("then from one on", x.set(0, 1, 5L), 1);
+    private static void setChanges() {
+        says("8 set: how many CHANGES its PIECE has then (ROWS .. that were set, to whatever, each once)", () -> {
+            Store x = full();
+            due(x.set(0, 31, -7L), 1);
+            due(x.set(0, 31, -8L), 1);
+            due(x.set(0, 31, 31L), 1);
+            due(x.set(0, 5, 5L), 2);
+            due(x.set(0, 5, 5L), 2);
+            due(x.set(0, 0, 7L), 3);
+            due(x.set(0, 32, 7L), 1);
+            due(x.piece(0, 0, 3), 3);
+            due(x.piece(0, 1, 3), 1);
+            due(x.piece(0, 2, 3), 0);
+        });
+        says("8 set: a ROW that is CHANGED again does not pack a PIECE with 4 CHANGES", () -> {
+            Store x = full();
+            for (int i = 0; i < 4; i++) {
+                due(x.set(0, i, 9L), i + 1);
+            }
+            for (int i = 0; i < 4; i++) {
+                due(x.set(0, i, 10L + i), 4);
+            }
+            due(x.piece(0, 0, 3), 4);
+            written(x, 0, "C1 20 00 03 02 02 00 01 00 00");
+            for (int i = 0; i < 5; i++) {
+                due(x.get(0, i), i < 4 ? 10L + i : 4L);
+            }
+        });
+        says("8 set: 0 with the 5th, then from 1 on", () -> {
+            Store x = new Store();
+            x.way(0, 0, 1000);
+            repeat(x, 0, 32, 5L);
+            for (int i = 0; i < 4; i++) {
+                due(x.set(0, 8 * i, i == 3 ? 7L : 6L), i + 1);
+            }
+            due(x.set(0, 1, 8L), 0);
+            written(x, 0, "C1 20 00 01 0A 02 0D 00 01 00 01 00 02 00");
+            due(x.get(0, 24), 7L);
+            due(x.get(0, 1), 8L);
+            due(x.set(0, 1, 5L), 1);
+            due(x.set(0, 8, 5L), 2);
+            due(x.get(0, 1), 5L);
+            due(x.get(0, 24), 7L);
+        });
+        says("8 set: 0 with the 5th, though all are set to what they were", () -> {
+            Store x = full();
+            for (int i = 0; i < 4; i++) {
+                due(x.set(0, i, i), i + 1);
+            }
+            due(x.set(0, 4, 4L), 0);
+            due(x.take(0, 0), 11);
+        });
+        says("8 set: CHANGES of a short PACKED PIECE", () -> {
+            Store x = packed(1L, 2L, 3L, 4L, 5L);
+            for (int i = 0; i < 4; i++) {
+                due(x.set(0, i, 9L), i + 1);
+            }
+            due(x.set(0, 4, 9L), 0);
+            due(x.piece(0, 0, 4), 0);
+            written(x, 0, "C1 05 00 01 12 00");
+        });
+        says("8 set: CHANGES of a PIECE that was loaded", () -> {
+            Store x = new Store();
+            due(loaded(x, 0, THREE), 3);
+            due(x.set(0, 1, 9L), 1);
+            rows(x, 0, 5L, 9L, 7L);
+            written(x, 0, "C1 03 00 01 0A 02 24");
+        });
     }
 
     private static void pack() {
-        promise = 9;
-        PackedColumns x = new PackedColumns();
-        due("column -1", x.pack(-1), NONE);
-        due("column 4", x.pack(4), NONE);
-        due("empty", x.pack(0), 0);
-        add(x, 5L, 6L, 7L);
-        due("three rows", x.pack(0), 8);
-        written("three rows", x, 0, "C1 03 00 01 0A 02 24");
-        due("it is closed", x.piece(0, 0, 4), 0);
-        due("rows", x.count(0, 0), 3);
-        due("a change of it", x.set(0, 1, 9L), 1);
-        due("packed anew", x.pack(0), 9);
-        written("with its change", x, 0, "C1 03 00 01 0A 03 A0 00");
-        due("changes", x.piece(0, 0, 3), 0);
-        x.clear(0);
-        repeat(x, 40, 5L);
-        due("two pieces", x.pack(0), 14);
-        x.set(0, 3, 6L);
-        x.set(0, 39, 7L);
-        x.way(0, 0, 32);
-        due("with the way as it is then", x.pack(0), 11 + 9);
-        due("their bytes", x.count(0, 3), 11 + 9);
+        says("9 All PIECES of a COLUMN are packed anew, the OPEN one, too: how many bytes they have", () -> {
+            Store x = new Store();
+            repeat(x, 0, 40, 5L);
+            due(x.pack(0), 14);
+            due(x.count(0, 3), 14);
+            x.set(0, 3, 6L);
+            x.set(0, 39, 7L);
+            x.way(0, 0, 32);
+            due(x.pack(0), 11 + 9);
+            due(x.piece(0, 0, 3), 0);
+            due(x.piece(0, 1, 3), 0);
+            due(x.get(0, 3), 6L);
+            due(x.get(0, 39), 7L);
+        });
+        says("9 All PIECES of a COLUMN are packed anew: also one without CHANGES, with DEPTH and LIMIT as they are", () -> {
+            Store x = full();
+            due(x.count(0, 3), 55);
+            x.way(0, 0, 32);
+            due(x.pack(0), 5 * 27);
+            for (int p = 0; p < 5; p++) {
+                coded(x, p, 1);
+            }
+        });
+        says("9 All PIECES of a COLUMN are packed anew: one that was loaded, too", () -> {
+            Store x = new Store();
+            loaded(x, 0, checked("C1 01 00 00 00 00 00 00 00 00 00 05"));
+            due(x.piece(0, 0, 1), 13);
+            due(x.pack(0), 7);
+            written(x, 0, "C1 01 00 01 0A 00");
+        });
+        says("9 pack: of a COLUMN without ROWS", () -> {
+            Store x = new Store();
+            due(x.pack(0), 0);
+            due(x.count(0, 1), 0);
+            due(x.value(0, 1L), 0);
+            due(x.piece(0, 0, 4), 1);
+        });
+        says("9 pack: of one ROW, of 160", () -> {
+            due(with(5L).pack(0), 7);
+            due(full().pack(0), 55);
+        });
+        says("9 pack: no other COLUMN is", () -> {
+            Store x = with(5L);
+            x.value(1, 5L);
+            x.pack(0);
+            due(x.piece(1, 0, 4), 1);
+        });
+        says("9 pack: NONE if there is none such", () -> {
+            Store x = with(5L);
+            for (int c : NO_COLUMNS) {
+                due(x.pack(c), NONE);
+            }
+            due(x.piece(0, 0, 4), 1);
+        });
     }
 
     private static void packThenGoOn() {
-        promise = 9;
-        PackedColumns x = new PackedColumns();
-        add(x, 5L, 6L, 7L);
-        x.missing(0);
-        x.pack(0);
-        x.set(0, 0, 1L);
-        x.set(0, 3, 2L);
-        due("value", x.value(0, 9L), 4);
-        due("open again", x.piece(0, 0, 4), 1);
-        due("one piece", x.count(0, 1), 1);
-        due("its changes", x.piece(0, 0, 3), 0);
-        due("its bytes", x.piece(0, 0, 1), 0);
-        long[] rows = {1L, 6L, 7L, 2L, 9L};
-        for (int i = 0; i < rows.length; i++) {
-            due("get", x.get(0, i), rows[i]);
-        }
-        x.pack(0);
-        due("missing", x.missing(0), 5);
-        due("open again", x.piece(0, 0, 4), 1);
-        x.pack(0);
-        due("sow", x.sow(0, 27, 1, 0L, 0L, 1, 0L), 33);
-        due("full", x.piece(0, 0, 4), 0);
-        x.clear(0);
-        repeat(x, 32, 4L);
-        x.pack(0);
-        x.value(0, 5L);
-        due("a new piece", x.count(0, 1), 2);
-        due("the full one stays packed", x.piece(0, 0, 4), 0);
-        due("the new one is open", x.piece(0, 1, 4), 1);
+        says("9 the next ROW begins a new PIECE only if it has 32 ROWS", () -> {
+            Store x = new Store();
+            repeat(x, 0, 32, 4L);
+            x.pack(0);
+            due(x.value(0, 5L), 32);
+            due(x.count(0, 1), 2);
+            due(x.piece(0, 0, 4), 0);
+            due(x.piece(0, 0, 0), 32);
+            due(x.piece(0, 1, 4), 1);
+            due(x.piece(0, 1, 0), 1);
+        });
+        says("9 else it is unpacked for it and is OPEN again: with 31 ROWS it is full then", () -> {
+            Store x = new Store();
+            repeat(x, 0, 31, 4L);
+            x.pack(0);
+            due(x.value(0, 4L), 31);
+            due(x.count(0, 1), 1);
+            due(x.piece(0, 0, 4), 0);
+            written(x, 0, "C1 20 00 01 08 00");
+        });
+        says("9 else it is unpacked for it and is OPEN again: by value(), its CHANGES in it", () -> {
+            Store x = with(5L, 6L, 7L);
+            x.missing(0);
+            x.pack(0);
+            x.set(0, 0, 1L);
+            x.set(0, 3, 2L);
+            due(x.value(0, 9L), 4);
+            due(x.piece(0, 0, 4), 1);
+            due(x.count(0, 1), 1);
+            due(x.piece(0, 0, 3), 0);
+            due(x.piece(0, 0, 1), 0);
+            due(x.piece(0, 0, 2), NONE);
+            due(x.at(0, 0, 0), NONE);
+            rows(x, 0, 1L, 6L, 7L, 2L, 9L);
+            due(x.set(0, 0, 3L), 0);
+        });
+        says("9 else it is unpacked for it and is OPEN again: by missing()", () -> {
+            Store x = packed(5L);
+            due(x.missing(0), 1);
+            due(x.piece(0, 0, 4), 1);
+            rows(x, 0, 5L, null);
+        });
+        says("9 else it is unpacked for it and is OPEN again: by sow()", () -> {
+            Store x = packed(5L);
+            due(x.sow(0, 2, 0, 8L, 1L, 1, 0L), 3);
+            due(x.piece(0, 0, 4), 1);
+            rows(x, 0, 5L, 8L, 9L);
+        });
+        says("9 else it is unpacked for it and is OPEN again: by load()", () -> {
+            Store x = packed(5L);
+            due(loaded(x, 0, THREE), 4);
+            due(x.piece(0, 0, 4), 1);
+            rows(x, 0, 5L, 5L, 6L, 7L);
+        });
+        says("9 (it is closed then; ..): a PIECE that was OPEN again is packed again", () -> {
+            Store x = packed(5L);
+            x.value(0, 6L);
+            due(x.pack(0), 8);
+            written(x, 0, "C1 02 00 01 0A 01 02");
+            due(x.piece(0, 0, 3), 0);
+            due(x.set(0, 0, 5L), 1);
+        });
+        says("9 of a second PIECE: it is OPEN again, the first one stays PACKED", () -> {
+            Store x = new Store();
+            repeat(x, 0, 33, 5L);
+            x.pack(0);
+            x.set(0, 0, 6L);
+            due(x.value(0, 7L), 33);
+            due(x.piece(0, 0, 3), 1);
+            due(x.piece(0, 0, 4), 0);
+            due(x.piece(0, 1, 4), 1);
+            due(x.get(0, 0), 6L);
+            due(x.get(0, 32), 5L);
+            due(x.get(0, 33), 7L);
+        });
     }
 
     private static void clear() {
-        promise = 10;
-        PackedColumns x = with(1L, 2L, 3L);
-        x.value(1, 4L);
-        due("column -1", x.clear(-1), NONE);
-        due("column 4", x.clear(4), NONE);
-        due("three rows", x.clear(0), 3);
-        due("again", x.clear(0), 0);
-        due("rows", x.count(0, 0), 0);
-        due("pieces", x.count(0, 1), 0);
-        due("another column", x.count(1, 0), 1);
-        due("get", x.get(0, 0), 0L);
-        due("value", x.value(0, 7L), 0);
-        due("get", x.get(0, 0), 7L);
-        x.sow(0, 64, 0, 0L, 1L, 1, 0L);
-        x.set(0, 1, 99L);
-        due("65 rows", x.clear(0), 65);
-        x.sow(0, 32, 0, 0L, 1L, 1, 0L);
-        due("no change is left", x.get(0, 1), 1L);
-        due("changes", x.piece(0, 0, 3), 0);
-        x.clear(0);
-        x.value(0, 1L);
-        x.pack(0);
-        x.clear(0);
-        due("behind a packed one", x.value(0, 3L), 0);
-        due("get", x.get(0, 0), 3L);
+        says("10 All ROWS of a COLUMN go: how many there were", () -> {
+            Store x = with(1L, 2L, 3L);
+            due(x.clear(0), 3);
+            for (int what = 0; what < 4; what++) {
+                due(x.count(0, what), 0);
+            }
+            due(x.get(0, 0), 0L);
+            due(x.has(0, 0), NONE);
+            due(x.piece(0, 0, 4), NONE);
+            due(x.value(0, 7L), 0);
+            rows(x, 0, 7L);
+        });
+        says("10 clear: of a COLUMN without ROWS, and of 160", () -> {
+            Store x = full();
+            due(x.clear(1), 0);
+            due(x.clear(0), 160);
+            due(x.clear(0), 0);
+            due(x.sow(0, 64, 1, 0L, 0L, 1, 0L), 64);
+        });
+        says("10 clear: no ROW of another COLUMN goes", () -> {
+            Store x = with(1L);
+            x.value(1, 4L);
+            x.clear(0);
+            rows(x, 1, 4L);
+        });
+        says("10 clear: CHANGES go, too", () -> {
+            Store x = full();
+            x.set(0, 1, 99L);
+            x.clear(0);
+            x.sow(0, 32, 0, 0L, 1L, 1, 0L);
+            due(x.get(0, 1), 1L);
+            due(x.piece(0, 0, 3), 0);
+        });
+        says("10 clear: an OPEN PIECE goes, and a short PACKED one", () -> {
+            Store x = packed(1L);
+            x.clear(0);
+            due(x.value(0, 3L), 0);
+            due(x.piece(0, 0, 4), 1);
+            rows(x, 0, 3L);
+            x.clear(0);
+            due(x.sow(0, 32, 1, 6L, 0L, 1, 0L), 32);
+            written(x, 0, "C1 20 00 01 0C 00");
+            x.clear(0);
+            due(loaded(x, 0, THREE), 3);
+            due(x.piece(0, 0, 4), 0);
+        });
+        says("10 clear: NONE if there is none such", () -> {
+            Store x = with(1L);
+            for (int c : NO_COLUMNS) {
+                due(x.clear(c), NONE);
+            }
+            rows(x, 0, 1L);
+        });
     }
 
     private static void count() {
-        promise = 11;
-        PackedColumns x = new PackedColumns();
-        due("column -1", x.count(-1, 0), NONE);
-        due("column 4", x.count(4, 0), NONE);
-        due("what -1", x.count(0, -1), NONE);
-        due("what 4", x.count(0, 4), NONE);
-        repeat(x, 32, 5L);
-        due("pieces", x.count(0, 1), 1);
-        x.value(0, 5L);
-        x.missing(0);
-        due("rows", x.count(0, 0), 34);
-        due("pieces", x.count(0, 1), 2);
-        due("missing ones", x.count(0, 2), 1);
-        due("bytes of packed ones", x.count(0, 3), 7);
-        x.pack(0);
-        due("bytes of both", x.count(0, 3), 7 + 8);
-        x.set(0, 33, 1L);
-        due("missing ones", x.count(0, 2), 0);
-        x.missing(0);
-        due("missing ones", x.count(0, 2), 1);
-        due("bytes of packed ones", x.count(0, 3), 7);
+        says("11 How many ROWS (what 0)", () -> {
+            Store x = new Store();
+            repeat(x, 0, 32, 5L);
+            due(x.count(0, 0), 32);
+            x.missing(0);
+            due(x.count(0, 0), 33);
+            due(full().count(0, 0), 160);
+        });
+        says("11 How many .. PIECES (1): an OPEN one, too", () -> {
+            Store x = new Store();
+            x.value(0, 5L);
+            due(x.count(0, 1), 1);
+            repeat(x, 0, 31, 5L);
+            due(x.count(0, 1), 1);
+            x.missing(0);
+            due(x.count(0, 1), 2);
+            due(full().count(0, 1), 5);
+        });
+        says("11 How many .. MISSING ones (2): of PACKED and OPEN PIECES, as they are", () -> {
+            Store x = new Store();
+            gaps(x, 0, 34);
+            due(x.count(0, 2), 34);
+            x.set(0, 0, 1L);
+            x.set(0, 33, 1L);
+            due(x.count(0, 2), 32);
+            x.pack(0);
+            due(x.count(0, 2), 32);
+            x.set(0, 32, 1L);
+            due(x.count(0, 2), 31);
+        });
+        says("11 How many .. bytes of PACKED PIECES (3): none of an OPEN one", () -> {
+            Store x = new Store();
+            x.value(0, 5L);
+            due(x.count(0, 3), 0);
+            repeat(x, 0, 31, 5L);
+            due(x.count(0, 3), 7);
+            x.value(0, 5L);
+            due(x.count(0, 3), 7);
+            x.pack(0);
+            due(x.count(0, 3), 14);
+            x.value(0, 5L);
+            due(x.count(0, 3), 7);
+        });
+        says("11 count: NONE if there is none such", () -> {
+            Store x = with(5L);
+            for (int c : NO_COLUMNS) {
+                for (int what = 0; what < 4; what++) {
+                    due(x.count(c, what), NONE);
+                }
+            }
+        });
+        says("11 count: NONE .. for others", () -> {
+            Store x = with(5L);
+            due(x.count(0, 4), NONE);
+            for (int what : FAR) {
+                due(x.count(0, what), NONE);
+            }
+        });
     }
 
-    private static void hasAndGet() {
-        PackedColumns x = new PackedColumns();
+    /** Every third row is missing, from row 1 on; 40 rows, of which 32 are packed. */
+    private static Store gapped() {
+        Store x = new Store();
         for (int i = 0; i < 40; i++) {
             if (i % 3 == 1) {
                 x.missing(0);
@@ -450,215 +787,332 @@ public final class PromiseTest {
                 x.value(0, 10L * i - 100);
             }
         }
-        for (int i = 0; i < 40; i++) {
-            promise = 12;
-            due("has(0, " + i + ")", x.has(0, i), i % 3 == 1 ? 0 : 1);
-            promise = 13;
-            due("get(0, " + i + ")", x.get(0, i), i % 3 == 1 ? 0L : 10L * i - 100);
-        }
-        promise = 12;
-        due("column -1", x.has(-1, 0), NONE);
-        due("column 4", x.has(4, 0), NONE);
-        due("row -1", x.has(0, -1), NONE);
-        due("row 40", x.has(0, 40), NONE);
-        due("an empty column", x.has(1, 0), NONE);
-        promise = 13;
-        due("column -1", x.get(-1, 0), 0L);
-        due("column 4", x.get(4, 0), 0L);
-        due("row -1", x.get(0, -1), 0L);
-        due("row 40", x.get(0, 40), 0L);
-        due("the greatest int", x.get(0, Integer.MAX_VALUE), 0L);
-        x.set(0, 2, Long.MIN_VALUE);
-        due("a changed one", x.get(0, 2), Long.MIN_VALUE);
+        return x;
+    }
+
+    private static void hasAndGet() {
+        says("12 Whether a ROW has a VALUE (1), or is MISSING (0)", () -> {
+            Store x = gapped();
+            for (int i = 0; i < 40; i++) {
+                due(x.has(0, i), i % 3 == 1 ? 0 : 1);
+            }
+            x.set(0, 1, 0L);
+            due(x.has(0, 1), 1);
+        });
+        says("12 has: NONE if there is none such: a ROW", () -> {
+            Store x = gapped();
+            due(x.has(0, 40), NONE);
+            due(x.has(1, 0), NONE);
+            for (int far : FAR) {
+                due(x.has(0, far), NONE);
+            }
+            due(full().has(0, 160), NONE);
+        });
+        says("12 has: NONE if there is none such: a COLUMN", () -> {
+            Store x = gapped();
+            for (int c : NO_COLUMNS) {
+                due(x.has(c, 0), NONE);
+            }
+        });
+        says("13 A ROW's VALUE", () -> {
+            Store x = gapped();
+            for (int i = 0; i < 40; i += 3) {
+                due(x.get(0, i), 10L * i - 100);
+            }
+            x.set(0, 3, LEAST);
+            x.set(0, 39, GREATEST);
+            due(x.get(0, 3), LEAST);
+            due(x.get(0, 39), GREATEST);
+        });
+        says("13 get: 0 if it is MISSING", () -> {
+            Store x = gapped();
+            for (int i = 1; i < 40; i += 3) {
+                due(x.get(0, i), 0L);
+            }
+        });
+        says("13 get: 0 if .. there is none such", () -> {
+            Store x = new Store();
+            repeat(x, 0, 40, 7L);
+            due(x.get(0, 40), 0L);
+            due(x.get(1, 0), 0L);
+            for (int far : FAR) {
+                due(x.get(0, far), 0L);
+            }
+            for (int c : NO_COLUMNS) {
+                due(x.get(c, 0), 0L);
+            }
+        });
     }
 
     private static void piece() {
-        promise = 14;
-        PackedColumns x = new PackedColumns();
-        repeat(x, 33, 5L);
-        int[] packed = {32, 7, 32, 0, 0};
-        int[] open = {1, 0, NONE, 0, 1};
-        for (int what = 0; what < 5; what++) {
-            due("packed, " + what, x.piece(0, 0, what), packed[what]);
-            due("open, " + what, x.piece(0, 1, what), open[what]);
-        }
-        due("what -1", x.piece(0, 0, -1), NONE);
-        due("what 5", x.piece(0, 0, 5), NONE);
-        due("column -1", x.piece(-1, 0, 0), NONE);
-        due("column 4", x.piece(4, 0, 0), NONE);
-        due("piece -1", x.piece(0, -1, 0), NONE);
-        due("piece 2", x.piece(0, 2, 0), NONE);
-        due("piece of an empty column", x.piece(1, 0, 0), NONE);
-        x.set(0, 0, 6L);
-        x.set(0, 1, 6L);
-        due("changes", x.piece(0, 0, 3), 2);
-        due("work is that of its bytes", x.piece(0, 0, 2), 32);
-        x.set(0, 32, 6L);
-        due("changes of an open one", x.piece(0, 1, 3), 0);
+        says("14 Of a PIECE: 0 ROWS, 1 bytes .., 2 WORK of its bytes .., 3 CHANGES, 4 whether it is OPEN: a PACKED one", () -> {
+            Store x = new Store();
+            repeat(x, 0, 33, 5L);
+            int[] due = {32, 7, 32, 0, 0};
+            for (int what = 0; what < 5; what++) {
+                due(x.piece(0, 0, what), due[what]);
+            }
+            x.set(0, 0, 6L);
+            x.set(0, 1, 6L);
+            due(x.piece(0, 0, 3), 2);
+            due(x.piece(0, 0, 1), 7);
+            due(x.piece(0, 0, 2), 32);
+        });
+        says("14 Of a PIECE: .. 1 bytes (0 of an OPEN one), 2 WORK .. (NONE of an OPEN one), .. 4 .. OPEN (1, 0)", () -> {
+            Store x = new Store();
+            repeat(x, 0, 33, 5L);
+            x.set(0, 32, 6L);
+            int[] due = {1, 0, NONE, 0, 1};
+            for (int what = 0; what < 5; what++) {
+                due(x.piece(0, 1, what), due[what]);
+            }
+        });
+        says("14 piece: NONE if there is none such: a PIECE", () -> {
+            Store x = new Store();
+            repeat(x, 0, 33, 5L);
+            for (int what = 0; what < 5; what++) {
+                due(x.piece(0, 2, what), NONE);
+                due(x.piece(0, -1, what), NONE);
+                due(x.piece(1, 0, what), NONE);
+            }
+            for (int far : FAR) {
+                due(x.piece(0, far, 0), NONE);
+            }
+            x = full();
+            due(x.piece(0, 4, 0), 32);
+            due(x.piece(0, 5, 0), NONE);
+        });
+        says("14 piece: NONE if there is none such: a COLUMN", () -> {
+            Store x = with(5L);
+            for (int c : NO_COLUMNS) {
+                for (int what = 0; what < 5; what++) {
+                    due(x.piece(c, 0, what), NONE);
+                }
+            }
+        });
+        says("14 piece: NONE .. for others", () -> {
+            Store x = packed(5L);
+            due(x.piece(0, 0, 5), NONE);
+            for (int what : FAR) {
+                due(x.piece(0, 0, what), NONE);
+            }
+            x.value(0, 5L);
+            due(x.piece(0, 0, 5), NONE);
+            due(x.piece(0, 0, -1), NONE);
+        });
     }
 
-    private static void at() {
-        promise = 15;
-        PackedColumns x = new PackedColumns();
-        repeat(x, 33, 5L);
-        due("at(0, 0, 0)", x.at(0, 0, 0), 193);
-        due("at(0, 0, 1)", x.at(0, 0, 1), 32);
-        due("at(0, 0, -1)", x.at(0, 0, -1), NONE);
-        due("at(0, 0, 7)", x.at(0, 0, 7), NONE);
-        due("an open one", x.at(0, 1, 0), NONE);
-        due("piece 2", x.at(0, 2, 0), NONE);
-        due("piece -1", x.at(0, -1, 0), NONE);
-        due("column -1", x.at(-1, 0, 0), NONE);
-        due("column 4", x.at(4, 0, 0), NONE);
-        x.set(0, 0, 7L);
-        written("a change is beside the bytes", x, 0, "C1 20 00 01 0A 00");
-    }
-
-    private static void writtenForms() {
-        promise = 15;
-        PackedColumns x = with(-1L);
-        x.missing(0);
-        x.value(0, 0L);
-        x.pack(0);
-        written("a missing one", x, 0, "C1 03 01 02 01 01 01 02");
-        x = with(Long.MIN_VALUE, Long.MAX_VALUE);
-        x.pack(0);
-        written("steps that wrap", x, 0, "C1 02 00 03 02 FF FF FF FF FF FF FF FF FF 01 00 01 01 01");
-        x.way(0, 0, 1000);
-        x.pack(0);
-        written("the ends of longs, plain", x, 0, "C1 02 00 00 80 00 00 00 00 00 00 00 7F FF FF FF FF FF FF FF");
-        x = new PackedColumns();
-        repeat(x, 31, 7L);
-        x.value(0, 1000000L);
-        written("patched", x, 0, "C1 20 00 02 0E 00 01 1F 80 89 7A");
-        coded("patched", x, 0, 2);
-        due("patched: work", x.piece(0, 0, 2), 33);
-        x = new PackedColumns();
-        x.sow(0, 32, 0, 0L, 3L, 1, 0L);
-        written("steps", x, 0, "C1 20 00 03 02 06 00 01 00 00");
-        due("steps: work", x.piece(0, 0, 2), 65);
-        x = new PackedColumns();
-        repeat(x, 16, 0x0123456789ABCDEFL);
-        repeat(x, 16, 0x7EDCBA9876543210L);
-        written("runs", x, 0, "C1 20 00 04 02 00 01 23 45 67 89 AB CD EF 7E DC BA 98 76 54 32 10 01 20 00");
-        coded("runs", x, 0, 4, 0);
-        due("runs: work", x.piece(0, 0, 2), 32 + 2 + 2);
-        x = new PackedColumns();
-        for (int i = 0; i < 16; i++) {
-            add(x, 0x7EDCBA9876543210L, 0x0123456789ABCDEFL);
-        }
-        written("list", x, 0, "C1 20 00 05 02 00 01 23 45 67 89 AB CD EF 7E DC BA 98 76 54 32 10 55 55 55 55");
-        coded("list", x, 0, 5, 0);
-        due("list: work", x.piece(0, 0, 2), 32 + 2);
-        x = with(-1000003L, 0L, 2000006L, 3000009L, 1000003L, 0L, -2000006L, 2000006L);
-        x.pack(0);
-        written("shares", x, 0, "C1 08 00 06 C3 84 3D 01 03 03 11 3B 81");
-        coded("shares", x, 0, 6, 1);
-        due("shares: work", x.piece(0, 0, 2), 16);
-    }
-
-    private static void chosenWays() {
-        promise = 9;
-        PackedColumns x = with(0L);
-        x.pack(0);
-        written("one zero", x, 0, "C1 01 00 01 00 00");
-        x = with(Long.MIN_VALUE);
-        x.pack(0);
-        written("one least long", x, 0, "C1 01 00 00 80 00 00 00 00 00 00 00");
-        x = with(Long.MIN_VALUE, 0L, 0L, 0L);
-        x.way(0, 0, 1000);
-        x.pack(0);
-        written("a patch beside a far one", x, 0, "C1 04 00 02 00 00 01 00 FF FF FF FF FF FF FF FF FF 01");
-        x = with(6L);
-        x.pack(0);
-        coded("a divisor of one value is of no use", x, 0, 1);
-        x = new PackedColumns();
-        x.value(0, 1L << 62);
-        x.pack(0);
-        written("one value by its divisor", x, 0, "C1 01 00 00 40 00 00 00 00 00 00 00");
-        promise = 4;
-        x = new PackedColumns();
-        x.way(0, 2, 32);
-        repeat(x, 31, 7L);
-        x.value(0, 1000000L);
-        due("a limit of 32 leaves no patch", x.piece(0, 0, 2), 32);
-        coded("a limit of 32 leaves no patch", x, 0, 1);
-        x.way(0, 2, 33);
-        x.pack(0);
-        coded("a limit of 33 leaves one", x, 0, 2);
-    }
-
-    private static void code() {
-        promise = 16;
-        PackedColumns x = new PackedColumns();
-        x.sow(0, 33, 0, 0L, 3L, 1, 0L);
-        due("code(0, 0, 0)", x.code(0, 0, 0), 3);
-        due("code(0, 0, 1)", x.code(0, 0, 1), 2);
-        due("code(0, 0, 2)", x.code(0, 0, 2), NONE);
-        due("code(0, 0, -1)", x.code(0, 0, -1), NONE);
-        due("the greatest int", x.code(0, 0, Integer.MAX_VALUE), NONE);
-        due("the least int", x.code(0, 0, Integer.MIN_VALUE), NONE);
-        due("an open one", x.code(0, 1, 0), NONE);
-        due("piece 2", x.code(0, 2, 0), NONE);
-        due("piece -1", x.code(0, -1, 0), NONE);
-        due("column -1", x.code(-1, 0, 0), NONE);
-        due("column 4", x.code(4, 0, 0), NONE);
-        x = new PackedColumns();
-        loaded(x, 0, checked("C1 02 00 05 02 06 03 01 00 02 04 02"));
-        coded("three turns", x, 0, 5, 6, 1);
+    private static void atAndCode() {
+        says("15 Byte i of a PACKED PIECE (0 .. 255)", () -> {
+            Store x = new Store();
+            loaded(x, 0, checked("C1 01 00 00 80 7F FF 00 01 FE 81 C0"));
+            int[] due = bytesOf("C1 01 00 00 80 7F FF 00 01 FE 81 C0");
+            for (int i = 0; i < due.length; i++) {
+                due(x.at(0, 0, i), due[i]);
+            }
+        });
+        says("15 at: NONE if there is none such: a byte", () -> {
+            Store x = packed(5L);
+            due(x.at(0, 0, 6), checkOf("C1 01 00 01 0A 00"));
+            due(x.at(0, 0, 7), NONE);
+            due(x.at(0, 0, 299), NONE);
+            due(x.at(0, 0, 300), NONE);
+            for (int far : FAR) {
+                due(x.at(0, 0, far), NONE);
+            }
+        });
+        says("15 at: NONE if there is none such: behind fewer bytes than there were", () -> {
+            Store x = with(1L << 60, 0L, 77L);
+            x.pack(0);
+            int bytes = x.piece(0, 0, 1);
+            x.set(0, 0, 0L);
+            x.set(0, 2, 0L);
+            due(x.pack(0), 7);
+            due(x.at(0, 0, 7), NONE);
+            due(x.at(0, 0, bytes - 1), NONE);
+        });
+        says("15 at: NONE if there is none such: a PACKED PIECE", () -> {
+            Store x = new Store();
+            repeat(x, 0, 33, 5L);
+            due(x.at(0, 1, 0), NONE);
+            due(x.at(0, 2, 0), NONE);
+            due(x.at(0, -1, 0), NONE);
+            due(x.at(1, 0, 0), NONE);
+            for (int c : NO_COLUMNS) {
+                due(x.at(c, 0, 0), NONE);
+            }
+        });
+        says("16 Number i of the CODE by which a PACKED PIECE is written", () -> {
+            coded(packed(5L), 0, 1);
+            Store x = new Store();
+            sowSteps(x, 0);
+            coded(x, 0, 3, 2);
+            x = new Store();
+            loaded(x, 0, checked("C1 02 00 05 02 06 03 01 00 02 04 02"));
+            coded(x, 0, 5, 6, 1);
+            x = new Store();
+            loaded(x, 0, checked("C1 01 00 06 02 06 02 00 00 00 00 00 00 00 00 05"));
+            coded(x, 0, 6, 6, 0);
+            x = new Store();
+            loaded(x, 0, checked("C1 01 00 03 03 02 0A 00 00"));
+            coded(x, 0, 3, 3, 2);
+            x = new Store();
+            loaded(x, 0, checked("C1 01 00 00 00 00 00 00 00 00 00 05"));
+            coded(x, 0, 0);
+        });
+        says("16 code: NONE if there is none such: a number", () -> {
+            Store x = new Store();
+            sowSteps(x, 0);
+            due(x.code(0, 0, 2), NONE);
+            due(x.code(0, 0, 3), NONE);
+            for (int far : FAR) {
+                due(x.code(0, 0, far), NONE);
+            }
+        });
+        says("16 code: NONE if there is none such: a PACKED PIECE", () -> {
+            Store x = new Store();
+            repeat(x, 0, 33, 5L);
+            due(x.code(0, 1, 0), NONE);
+            due(x.code(0, 2, 0), NONE);
+            due(x.code(0, -1, 0), NONE);
+            due(x.code(1, 0, 0), NONE);
+            for (int c : NO_COLUMNS) {
+                due(x.code(c, 0, 0), NONE);
+            }
+        });
     }
 
     private static void front() {
-        promise = 17;
-        PackedColumns x = new PackedColumns();
-        due("column -1", x.front(-1, 0), NONE);
-        due("column 4", x.front(4, 0), NONE);
-        due("no piece", x.front(0, 0), NONE);
-        x.sow(0, 32, 0, 0L, 3L, 1, 0L);
-        due("piece -1", x.front(0, -1), NONE);
-        due("piece 1", x.front(0, 1), NONE);
-        due("front", x.front(0, 0), 3);
-        int[][] pairs = {{11, 65}, {16, 64}, {35, 32}};
-        promise = 18;
-        for (int k = 0; k < 3; k++) {
-            due("pair(" + k + ", 0)", x.pair(k, 0), pairs[k][0]);
-            due("pair(" + k + ", 1)", x.pair(k, 1), pairs[k][1]);
-        }
-        due("pair(-1, 0)", x.pair(-1, 0), NONE);
-        due("pair(3, 0)", x.pair(3, 0), NONE);
-        due("pair(0, 2)", x.pair(0, 2), NONE);
-        due("pair(0, -1)", x.pair(0, -1), NONE);
-        x.front(0, 9);
-        x.sow(0, 40, 0, 0L, 77L, 9, 1L);
-        x.pack(0);
-        due("a refused front() and a pack() leave it", x.pair(2, 0), 35);
-        promise = 17;
-        x.way(0, 0, 32);
-        due("at depth 0", x.front(0, 0), 1);
-        due("its bytes", x.pair(0, 0), 35);
-        x.way(0, 2, 32);
-        due("the limit does not matter", x.front(0, 0), 3);
-        for (int i = 0; i < 4; i++) {
-            x.set(0, i, 0L);
-        }
-        x.front(0, 0);
-        due("the values as they are", x.pair(0, 0), 14);
-        x = with(5L, 5L);
-        x.missing(0);
-        due("of an open piece", x.front(0, 0), 1);
-        due("of the whole piece", x.pair(0, 0), 8);
-        due("its work", x.pair(0, 1), 2);
-        x = new PackedColumns();
-        x.missing(0);
-        due("without a value", x.front(0, 0), 1);
-        due("its bytes", x.pair(0, 0), 6);
-        due("its work", x.pair(0, 1), 0);
-        promise = 18;
-        due("ahead of any", new PackedColumns().pair(0, 0), NONE);
+        says("17 The FRONT: pairs .. than which none has fewer of one and not more of the other; how many unlike ones", () -> {
+            Store x = new Store();
+            sowSteps(x, 0);
+            due(x.front(0, 0), 3);
+            pairs(x, 11, 65, 16, 64, 35, 32);
+        });
+        says("17 The FRONT of a PIECE's VALUES, as they are: with CHANGES", () -> {
+            Store x = new Store();
+            repeat(x, 0, 32, 7L);
+            due(x.front(0, 0), 1);
+            pairs(x, 7, 32);
+            x.set(0, 31, 1000000L);
+            due(x.front(0, 0), 2);
+            pairs(x, 12, 33, 87, 32);
+            due(x.piece(0, 0, 1), 7);
+        });
+        says("17 The FRONT of a PIECE's VALUES: of an OPEN one", () -> {
+            Store x = with(5L, 5L);
+            x.missing(0);
+            due(x.front(0, 0), 1);
+            pairs(x, 8, 2);
+            due(x.piece(0, 0, 4), 1);
+        });
+        says("17 The FRONT .. at the COLUMN's DEPTH: the LIMIT does not matter", () -> {
+            Store x = new Store();
+            sowSteps(x, 0);
+            x.way(0, 0, 1000);
+            due(x.front(0, 0), 1);
+            pairs(x, 35, 32);
+            x.way(0, 1, 32);
+            due(x.front(0, 0), 3);
+            pairs(x, 11, 65, 16, 64, 35, 32);
+        });
+        says("17 The FRONT: without a VALUE there is one pair, without WORK", () -> {
+            Store x = new Store();
+            gaps(x, 0, 33);
+            due(x.front(0, 0), 1);
+            pairs(x, 9, 0);
+            due(x.front(0, 1), 1);
+            pairs(x, 6, 0);
+        });
+        says("17 The FRONT: of one VALUE there is one pair", () -> {
+            Store x = with(LEAST);
+            due(x.front(0, 0), 1);
+            pairs(x, 13, 1);
+        });
+        says("17 front: NONE if there is none such", () -> {
+            Store x = new Store();
+            due(x.front(0, 0), NONE);
+            repeat(x, 0, 33, 5L);
+            due(x.front(0, 2), NONE);
+            due(x.front(1, 0), NONE);
+            for (int far : FAR) {
+                due(x.front(0, far), NONE);
+            }
+            for (int c : NO_COLUMNS) {
+                due(x.front(c, 0), NONE);
+            }
+        });
     }
 
-    private static PackedColumns threePieces() {
-        PackedColumns x = new PackedColumns();
+    private static void pair() {
+        says("18 Pair k (by bytes, the fewest first)", () -> {
+            Store x = with();
+            for (int i = 0; i < 32; i++) {
+                x.value(0, 7L * i * i + i);
+            }
+            due(x.front(0, 0), 4);
+            pairs(x, 14, 98, 25, 96, 44, 64, 59, 32);
+        });
+        says("18 pair: NONE if there is none such: a pair", () -> {
+            Store x = new Store();
+            sowSteps(x, 0);
+            x.front(0, 0);
+            due(x.pair(3, 0), NONE);
+            due(x.pair(3, 1), NONE);
+            due(x.pair(63, 0), NONE);
+            due(x.pair(64, 1), NONE);
+            for (int far : FAR) {
+                due(x.pair(far, 0), NONE);
+                due(x.pair(far, 1), NONE);
+            }
+        });
+        says("18 pair: NONE if there is none such: another what", () -> {
+            Store x = new Store();
+            sowSteps(x, 0);
+            x.front(0, 0);
+            due(x.pair(0, 2), NONE);
+            for (int far : FAR) {
+                due(x.pair(0, far), NONE);
+            }
+        });
+        says("18 pair: NONE ahead of any front()", () -> {
+            Store x = new Store();
+            due(x.pair(0, 0), NONE);
+            due(x.pair(0, 1), NONE);
+            sowSteps(x, 0);
+            x.pack(0);
+            due(x.pair(0, 0), NONE);
+            due(x.front(0, 1), NONE);
+            due(x.pair(0, 0), NONE);
+        });
+        says("18 of the latest front() that was not refused", () -> {
+            Store x = new Store();
+            sowSteps(x, 0);
+            x.value(1, 5L);
+            x.front(0, 0);
+            due(x.front(0, 9), NONE);
+            due(x.front(-1, 0), NONE);
+            pairs(x, 11, 65, 16, 64, 35, 32);
+            due(x.front(1, 0), 1);
+            pairs(x, 7, 1);
+        });
+        says("18 of the latest front(): it stays as it was then", () -> {
+            Store x = new Store();
+            sowSteps(x, 0);
+            x.front(0, 0);
+            x.set(0, 0, GREATEST);
+            x.way(0, 0, 32);
+            x.pack(0);
+            x.sow(0, 40, 0, 0L, 77L, 9, 1L);
+            loaded(x, 1, THREE);
+            x.clear(0);
+            pairs(x, 11, 65, 16, 64, 35, 32);
+        });
+    }
+
+    /** 0 .. 31, 100 .. 131, and an open piece: a missing one, 10, 110, 210, 310. */
+    private static Store threePieces() {
+        Store x = new Store();
         x.sow(0, 32, 0, 0L, 1L, 1, 0L);
         x.sow(0, 32, 0, 100L, 1L, 1, 0L);
         x.missing(0);
@@ -667,410 +1121,644 @@ public final class PromiseTest {
     }
 
     private static void among() {
-        promise = 19;
-        PackedColumns x = threePieces();
-        due("all", x.among(0, Long.MIN_VALUE, Long.MAX_VALUE), 68);
-        due("of the first piece", x.among(0, 5L, 9L), 5);
-        due("of two pieces and the open one", x.among(0, 31L, 110L), 1 + 11 + 1);
-        due("one value", x.among(0, 310L, 310L), 1);
-        due("none", x.among(0, 40L, 90L), 0);
-        due("least above greatest", x.among(0, 9L, 5L), 0);
-        due("column -1", x.among(-1, 0L, 1L), NONE);
-        due("column 4", x.among(4, 0L, 1L), NONE);
-        due("an empty column", x.among(1, 0L, 1L), 0);
-        x.set(0, 0, 1000L);
-        x.set(0, 32, 5L);
-        due("with changes", x.among(0, 0L, 31L), 31 + 1 + 1);
+        says("19 How many VALUES of a COLUMN are from least up to greatest", () -> {
+            Store x = threePieces();
+            due(x.among(0, 5L, 9L), 5);
+            due(x.among(0, 31L, 110L), 1 + 11 + 1);
+            due(x.among(0, 40L, 90L), 0);
+        });
+        says("19 from least up to greatest: both ends are among them", () -> {
+            Store x = threePieces();
+            due(x.among(0, 310L, 310L), 1);
+            due(x.among(0, 0L, 0L), 1);
+            due(x.among(0, 131L, 210L), 2);
+            due(x.among(0, 132L, 209L), 0);
+            due(x.among(0, 30L, 31L), 2);
+            due(x.among(0, 32L, 99L), 0);
+        });
+        says("19 from least up to greatest: all longs", () -> {
+            Store x = threePieces();
+            due(x.among(0, LEAST, GREATEST), 68);
+            x.value(0, LEAST);
+            x.value(0, GREATEST);
+            due(x.among(0, LEAST, GREATEST), 70);
+            due(x.among(0, LEAST, LEAST), 1);
+            due(x.among(0, GREATEST, GREATEST), 1);
+            due(x.among(0, LEAST, -1L), 1);
+            x.pack(0);
+            due(x.among(0, LEAST, GREATEST), 70);
+            due(x.among(0, LEAST, LEAST), 1);
+            due(x.among(0, GREATEST, GREATEST), 1);
+            due(x.among(0, LEAST + 1, GREATEST - 1), 68);
+        });
+        says("19 from least up to greatest: none, if least is above greatest", () -> {
+            Store x = threePieces();
+            due(x.among(0, 9L, 5L), 0);
+            due(x.among(0, GREATEST, LEAST), 0);
+            due(x.among(0, 1L, 0L), 0);
+        });
+        says("19 VALUES: a MISSING ROW is none of them, though 0 is", () -> {
+            Store x = new Store();
+            gaps(x, 0, 33);
+            x.value(0, 0L);
+            due(x.among(0, 0L, 0L), 1);
+            due(x.among(0, LEAST, GREATEST), 1);
+        });
+        says("19 VALUES: as they are, with CHANGES", () -> {
+            Store x = threePieces();
+            x.set(0, 0, 1000L);
+            x.set(0, 32, 5L);
+            due(x.among(0, 0L, 31L), 31 + 1 + 1);
+            due(x.among(0, 100L, 100L), 0);
+            due(x.among(0, 1000L, 1000L), 1);
+        });
+        says("19 among: of a COLUMN without ROWS", () -> due(new Store().among(3, LEAST, GREATEST), 0));
+        says("19 among: NONE if there is none such", () -> {
+            Store x = threePieces();
+            for (int c : NO_COLUMNS) {
+                due(x.among(c, LEAST, GREATEST), NONE);
+            }
+        });
     }
 
     private static void sum() {
-        promise = 20;
-        PackedColumns x = threePieces();
-        due("of the first piece", x.sum(0, 5L, 9L), 35);
-        due("of all", x.sum(0, Long.MIN_VALUE, Long.MAX_VALUE), 496 + 3696 + 640);
-        due("none", x.sum(0, 40L, 90L), 0);
-        due("least above greatest", x.sum(0, 9L, 5L), 0);
-        due("column -1", x.sum(-1, 0L, 1L), 0);
-        due("column 4", x.sum(4, 0L, 1L), 0);
-        x.set(0, 0, 1000L);
-        due("with a change", x.sum(0, 31L, 2000L), 31 + 3696 + 630 + 1000);
-        x.value(1, Long.MAX_VALUE);
-        x.value(1, Long.MAX_VALUE);
-        due("it wraps", x.sum(1, 0L, Long.MAX_VALUE), -2L);
+        says("20 The sum of these", () -> {
+            Store x = threePieces();
+            due(x.sum(0, 5L, 9L), 35);
+            due(x.sum(0, 31L, 100L), 131);
+            due(x.sum(0, LEAST, GREATEST), 496 + 3696 + 640);
+            due(x.sum(0, 310L, 310L), 310);
+        });
+        says("20 The sum of these (it wraps)", () -> {
+            Store x = with(GREATEST, GREATEST, 5L, LEAST);
+            due(x.sum(0, 6L, GREATEST), -2L);
+            due(x.sum(0, LEAST, 5L), LEAST + 5);
+            due(x.sum(0, LEAST, GREATEST), LEAST + 3);
+            x.pack(0);
+            due(x.sum(0, 6L, GREATEST), -2L);
+        });
+        says("20 The sum of these: of none it is 0", () -> {
+            Store x = threePieces();
+            due(x.sum(0, 40L, 90L), 0);
+            due(x.sum(0, 9L, 5L), 0);
+            due(x.sum(0, GREATEST, LEAST), 0);
+            due(x.sum(1, LEAST, GREATEST), 0);
+        });
+        says("20 The sum of these: as they are, with CHANGES", () -> {
+            Store x = threePieces();
+            x.set(0, 0, 1000L);
+            x.set(0, 1, -5L);
+            due(x.sum(0, 31L, 2000L), 31 + 3696 + 630 + 1000);
+            due(x.sum(0, LEAST, 2L), 2 - 5);
+        });
+        says("20 sum: 0 if there is none such", () -> {
+            Store x = threePieces();
+            for (int c : NO_COLUMNS) {
+                due(x.sum(c, LEAST, GREATEST), 0L);
+            }
+        });
+    }
+
+    private static void unpacked(Store x, long least, long greatest, int among, int sum) {
+        x.among(0, least, greatest);
+        due(x.looked(), among);
+        x.sum(0, least, greatest);
+        due(x.looked(), sum);
     }
 
     private static void looked() {
-        promise = 21;
-        PackedColumns x = threePieces();
-        due("ahead of any", x.looked(), 0);
-        x.among(0, 0L, 31L);
-        due("among: one within, one apart", x.looked(), 0);
-        x.sum(0, 0L, 31L);
-        due("sum: one within, one apart", x.looked(), 1);
-        x.among(0, 0L, 30L);
-        due("among: one end within", x.looked(), 1);
-        x.among(0, 31L, 100L);
-        due("among: an end of each", x.looked(), 2);
-        x.among(7, 0L, 1L);
-        due("a refused among()", x.looked(), 2);
-        x.sum(-1, 0L, 1L);
-        due("a refused sum()", x.looked(), 2);
-        x.sum(0, 32L, 99L);
-        due("between them", x.looked(), 0);
-        x.sum(0, Long.MIN_VALUE, Long.MAX_VALUE);
-        due("sum: all", x.looked(), 2);
-        x.sum(1, 0L, 1L);
-        due("an empty column", x.looked(), 0);
-        x.set(0, 0, 50L);
-        x.among(0, 0L, 0L);
-        due("the least one was changed", x.looked(), 0);
-        x.among(0, 40L, 60L);
-        due("the greatest one is another", x.looked(), 1);
-        x.among(0, 1L, 50L);
-        due("both ends of it", x.looked(), 0);
-        x.pack(0);
-        x.among(0, 10L, 10L);
-        due("a short packed one, too", x.looked(), 2);
-        x = new PackedColumns();
-        for (int i = 0; i < 32; i++) {
-            x.missing(0);
-        }
-        x.sum(0, Long.MIN_VALUE, Long.MAX_VALUE);
-        due("a piece without a value", x.looked(), 0);
-        x.among(0, Long.MIN_VALUE, Long.MAX_VALUE);
-        due("a piece without a value", x.looked(), 0);
+        says("21 looked: 0 ahead of any", () -> {
+            Store x = threePieces();
+            due(x.looked(), 0);
+            x.get(0, 0);
+            x.pack(0);
+            due(x.looked(), 0);
+        });
+        says("21 the latest among() or sum() that was not refused", () -> {
+            Store x = threePieces();
+            x.among(0, 31L, 100L);
+            due(x.looked(), 2);
+            for (int c : NO_COLUMNS) {
+                x.among(c, 0L, 1L);
+                due(x.looked(), 2);
+                x.sum(c, 0L, 1L);
+                due(x.looked(), 2);
+            }
+            x.get(0, 0);
+            x.set(0, 0, 0L);
+            x.pack(0);
+            due(x.looked(), 2);
+            x.sum(1, 0L, 1L);
+            due(x.looked(), 0);
+            x.sum(0, 5L, 5L);
+            due(x.looked(), 1);
+            x.among(1, 0L, 1L);
+            due(x.looked(), 0);
+        });
+        says("21 How many PACKED PIECES: none of an OPEN one", () -> {
+            Store x = with(1L, 5L, 9L);
+            unpacked(x, 5L, 5L, 0, 0);
+            x.pack(0);
+            unpacked(x, 5L, 5L, 1, 1);
+            x.value(0, 5L);
+            unpacked(x, 5L, 5L, 0, 0);
+        });
+        says("21 all: five of five", () -> unpacked(full(), 1L, 30L, 5, 5));
+    }
+
+    private static void lookedByEnds() {
+        says("21 all but those without a VALUE from least up to greatest by their ends: the greatest is below least", () -> {
+            Store x = threePieces();
+            unpacked(x, 131L, 400L, 1, 1);
+            unpacked(x, 132L, 400L, 0, 0);
+            unpacked(x, GREATEST, GREATEST, 0, 0);
+        });
+        says("21 all but those without a VALUE from least up to greatest by their ends: the least is above greatest", () -> {
+            Store x = threePieces();
+            unpacked(x, -5L, 0L, 1, 1);
+            unpacked(x, -5L, -1L, 0, 0);
+            unpacked(x, LEAST, LEAST, 0, 0);
+        });
+        says("21 all but those without a VALUE .. by their ends: one without it between its ends is unpacked", () -> {
+            Store x = packed(1L, 9L);
+            due(x.among(0, 4L, 6L), 0);
+            unpacked(x, 4L, 6L, 1, 1);
+            unpacked(x, 2L, 8L, 1, 1);
+        });
+        says("21 and, for among(), those both ends of which are", () -> {
+            Store x = threePieces();
+            unpacked(x, 0L, 31L, 0, 1);
+            unpacked(x, 0L, 131L, 0, 2);
+            unpacked(x, LEAST, GREATEST, 0, 2);
+        });
+        says("21 and, for among(), those both ends of which are: not with one end", () -> {
+            Store x = threePieces();
+            unpacked(x, 0L, 30L, 1, 1);
+            unpacked(x, 1L, 31L, 1, 1);
+            unpacked(x, 31L, 100L, 2, 2);
+        });
+        says("21 those both ends of which are: of one VALUE", () -> {
+            Store x = packed(5L);
+            unpacked(x, 5L, 5L, 0, 1);
+            unpacked(x, 4L, 4L, 0, 0);
+            unpacked(x, 6L, 6L, 0, 0);
+        });
+        says("21 their ends (the least and greatest of their VALUES, as they are): with CHANGES", () -> {
+            Store x = threePieces();
+            x.set(0, 0, 50L);
+            unpacked(x, 0L, 0L, 0, 0);
+            unpacked(x, 40L, 60L, 1, 1);
+            unpacked(x, 1L, 50L, 0, 1);
+            x.set(0, 0, 0L);
+            unpacked(x, 32L, 60L, 0, 0);
+            unpacked(x, 0L, 31L, 0, 1);
+        });
+        says("21 their ends: as they are with the 5th CHANGE, with pack(), of a PIECE that was loaded", () -> {
+            Store x = new Store();
+            x.sow(0, 32, 0, 0L, 1L, 1, 0L);
+            for (int i = 0; i < 5; i++) {
+                x.set(0, i, 40L + i);
+            }
+            unpacked(x, 5L, 44L, 0, 1);
+            x.set(0, 31, 60L);
+            x.pack(0);
+            unpacked(x, 61L, 99L, 0, 0);
+            unpacked(x, 60L, 99L, 1, 1);
+            x.clear(0);
+            loaded(x, 0, THREE);
+            unpacked(x, 5L, 7L, 0, 1);
+            unpacked(x, 8L, 8L, 0, 0);
+            unpacked(x, 4L, 4L, 0, 0);
+        });
+        says("21 those without a VALUE: all ROWS are MISSING", () -> {
+            Store x = new Store();
+            gaps(x, 0, 32);
+            unpacked(x, LEAST, GREATEST, 0, 0);
+            unpacked(x, 0L, 0L, 0, 0);
+            x.set(0, 7, 9L);
+            unpacked(x, 9L, 9L, 0, 1);
+            unpacked(x, 0L, 0L, 0, 0);
+            x.clear(0);
+            x.sow(0, 32, 0, 0L, 1L, 1, 0L);
+            x.clear(0);
+            gaps(x, 0, 32);
+            unpacked(x, 5L, 6L, 0, 0);
+        });
+        says("21 their ends: those of longs", () -> {
+            Store x = packed(LEAST, GREATEST);
+            unpacked(x, LEAST, GREATEST, 0, 1);
+            unpacked(x, LEAST, GREATEST - 1, 1, 1);
+            unpacked(x, LEAST + 1, GREATEST, 1, 1);
+            unpacked(x, 0L, 0L, 1, 1);
+        });
+        says("21 looked: least above greatest, beyond the ends", () -> {
+            Store x = threePieces();
+            unpacked(x, 200L, 150L, 0, 0);
+            unpacked(x, -1L, -2L, 0, 0);
+        });
     }
 
     private static void take() {
-        promise = 22;
-        PackedColumns x = new PackedColumns();
-        repeat(x, 33, 5L);
-        x.feed(1, 2, 3, 4, 5);
-        due("an open one", x.take(0, 1), NONE);
-        due("piece 2", x.take(0, 2), NONE);
-        due("piece -1", x.take(0, -1), NONE);
-        due("column -1", x.take(-1, 0), NONE);
-        due("column 4", x.take(4, 0), NONE);
-        yes("the tape is as it was", x.end(20));
-        due("take", x.take(0, 0), 7);
-        no("the tape has these alone", x.end(8));
-        yes("end(7)", x.end(7));
-        due("load", x.load(1), 32);
-        due("get", x.get(1, 31), 5L);
-        x.set(0, 0, 5L);
-        due("with a change", x.take(0, 0), NONE);
-        x.pack(0);
-        due("packed anew", x.take(0, 0), 7);
-        due("a short one", x.take(0, 1), 7);
-        x.value(0, 6L);
-        due("open again", x.take(0, 1), NONE);
+        says("22 The tape has a PACKED PIECE's bytes: how many", () -> {
+            Store x = new Store();
+            repeat(x, 0, 32, 5L);
+            due(x.take(0, 0), 7);
+            taped(x, 7);
+            due(x.load(1), 32);
+            due(x.get(1, 31), 5L);
+            due(x.piece(0, 0, 1), 7);
+        });
+        says("22 The tape has a PACKED PIECE's bytes: these alone, whatever it had", () -> {
+            Store x = packed(5L);
+            lay(x, times(300, "00"));
+            due(x.take(0, 0), 7);
+            taped(x, 7);
+            due(x.feed(0, 0, 0, 0, 0), 27);
+            due(x.take(0, 0), 7);
+            due(x.load(1), 1);
+            rows(x, 1, 5L);
+        });
+        says("22 The tape has a PACKED PIECE's bytes: of the longest that is packed", () -> {
+            Store x = new Store();
+            x.way(0, 0, 32);
+            for (int i = 0; i < 32; i++) {
+                x.value(0, (i + 1) * 0x4123456789ABCDEFL);
+            }
+            due(x.take(0, 0), 4 + 32 * 8 + 1);
+            due(x.load(1), 32);
+            due(x.get(1, 31), 32 * 0x4123456789ABCDEFL);
+        });
+        says("22 take: NONE if there is none such; the tape is as it was", () -> {
+            Store x = new Store();
+            repeat(x, 0, 33, 5L);
+            lay(x, THREE);
+            due(x.take(0, 1), NONE);
+            due(x.take(0, 2), NONE);
+            due(x.take(1, 0), NONE);
+            for (int far : FAR) {
+                due(x.take(0, far), NONE);
+            }
+            for (int c : NO_COLUMNS) {
+                due(x.take(c, 0), NONE);
+            }
+            taped(x, 8);
+            due(x.load(1), 3);
+        });
+        says("22 take: NONE if .. it has CHANGES; the tape is as it was", () -> {
+            Store x = packed(5L, 6L);
+            lay(x, THREE);
+            x.set(0, 0, 5L);
+            due(x.take(0, 0), NONE);
+            taped(x, 8);
+            x.pack(0);
+            due(x.take(0, 0), 8);
+        });
+        says("22 take: NONE if .. it has CHANGES: not with the 5th", () -> {
+            Store x = full();
+            for (int i = 0; i < 4; i++) {
+                x.set(0, i, i);
+                due(x.take(0, 0), NONE);
+                due(x.take(0, 1), 11);
+            }
+            x.set(0, 4, 4L);
+            due(x.take(0, 0), 11);
+        });
     }
 
     private static void load() {
-        promise = 23;
-        PackedColumns x = new PackedColumns();
-        String three = checked("C1 03 00 01 0A 02 24");
-        lay(x, three);
-        due("column 4", x.load(4), -2);
-        due("its fault", x.fault(0), 0);
-        no("the tape went", x.end(1));
-        lay(x, three);
-        due("column -1", x.load(-1), -2);
-        loadOfNoColumn(-1, three);
-        loadOfNoColumn(4, three);
-        loadOfNoColumn(Integer.MIN_VALUE, three);
-        loadOfNoColumn(Integer.MAX_VALUE, three);
-        due("three rows", loaded(x, 0, three), 3);
-        no("the tape went", x.end(1));
-        due("load of no byte", x.load(0), NONE);
-        lay(x, three + " 00");
-        due("with a fault", x.load(0), NONE);
-        no("the tape went", x.end(1));
-        due("rows", x.count(0, 0), 3);
-        x.sow(0, 64, 0, 0L, 1L, 1, 0L);
-        x.sow(0, 64, 0, 0L, 1L, 1, 0L);
-        x.sow(0, 27, 0, 0L, 1L, 1, 0L);
-        due("rows", x.count(0, 0), 158);
-        due("beyond 160", loaded(x, 0, three), -2);
-        due("its fault", x.fault(0), 0);
-        due("its place", x.fault(1), NONE);
-        due("rows", x.count(0, 0), 158);
-        due("to 160", loaded(x, 0, checked("C1 02 00 01 0A 02 04")), 160);
-        due("the last piece is packed", x.piece(0, 4, 4), 0);
-        due("full", loaded(x, 0, three), -2);
-        due("a fault ahead of it", loaded(x, 0, three + " 00"), -1);
-    }
-
-    /** The bytes are read ahead of the column: with a fault it is -1, whatever the column is. */
-    private static void loadOfNoColumn(int column, String sound) {
-        PackedColumns x = new PackedColumns();
-        String of = " in column " + column;
-        due("no byte" + of, x.load(column), -1);
-        due("its fault", x.fault(0), 1);
-        due("its place", x.fault(1), 0);
-        due("sound bytes" + of, loaded(x, column, sound), -2);
-        due("no fault", x.fault(0), 0);
-        due("no place", x.fault(1), NONE);
-        due("another first byte" + of, loaded(x, column, "C2 03"), -1);
-        due("its fault", x.fault(0), 2);
-        due("its place", x.fault(1), 0);
-        no("the tape went", x.end(1));
-        due("a turn that is none" + of, loaded(x, column, checked("C1 01 00 07")), -1);
-        due("its fault", x.fault(0), 3);
-        due("its place", x.fault(1), 3);
-        due("a byte behind the check" + of, loaded(x, column, sound + " 00"), -1);
-        due("its fault", x.fault(0), 4);
-        due("its place", x.fault(1), 8);
-        due("rows of column 0", x.count(0, 0), 0);
-    }
-
-    private static void loadKeepsOrUnpacks() {
-        promise = 23;
-        PackedColumns x = new PackedColumns();
-        String odd = "C1 03 01 04 03 02 0A 40 00 05 00 00 00 00 00 00 00 01 00 00 00 00 00 00 00";
-        due("kept", loaded(x, 0, checked(odd)), 3);
-        written("kept", x, 0, odd);
-        coded("kept", x, 0, 3, 2);
-        due("work", x.piece(0, 0, 2), 4);
-        due("packed", x.piece(0, 0, 4), 0);
-        due("get 0", x.get(0, 0), 10L);
-        due("get 1", x.get(0, 1), 16L);
-        due("has 2", x.has(0, 2), 0);
-        due("missing ones", x.count(0, 2), 1);
-        x.among(0, 10L, 16L);
-        due("its ends are known", x.looked(), 0);
-        due("a change", x.set(0, 1, 7L), 1);
-        due("a second one behind it", loaded(x, 0, checked(odd)), 6);
-        due("open again", x.piece(0, 0, 4), 1);
-        due("changes", x.piece(0, 0, 3), 0);
-        due("the changed one", x.get(0, 1), 7L);
-        due("get 4", x.get(0, 4), 16L);
-        due("has 5", x.has(0, 5), 0);
-        x.sow(0, 26, 0, 0L, 0L, 1, 0L);
-        due("whole pieces", x.count(0, 0), 32);
-        due("kept behind them", loaded(x, 0, checked(odd)), 35);
-        written("kept behind them", x, 1, odd);
-        due("value behind it", x.value(0, 3L), 35);
-        due("open again", x.piece(0, 1, 4), 1);
-        x.clear(0);
-        x.sow(0, 30, 0, 5L, 0L, 1, 0L);
-        due("over a piece's end", loaded(x, 0, checked(odd)), 33);
-        due("the first is packed", x.piece(0, 0, 4), 0);
-        due("the second is open", x.piece(0, 1, 4), 1);
-        due("get 31", x.get(0, 31), 16L);
-        due("has 32", x.has(0, 32), 0);
-        x.pack(0);
-        x.clear(0);
-        due("five whole ones", fill(x), 160);
-    }
-
-    private static int fill(PackedColumns x) {
-        int rows = 0;
-        for (int i = 0; i < 5; i++) {
-            rows = loaded(x, 0, checked("C1 20 00 01 0A 00"));
-        }
-        return rows;
-    }
-
-    private static void reads(String what, String hex, long... rows) {
-        PackedColumns x = new PackedColumns();
-        due(what, loaded(x, 0, checked(hex)), rows.length);
-        due(what + ": fault", x.fault(0), 0);
-        for (int i = 0; i < rows.length; i++) {
-            due(what + ": row " + i, x.get(0, i), rows[i]);
-        }
-        written(what, x, 0, hex);
-    }
-
-    private static void readForms() {
-        promise = 23;
-        String ones = " FF FF FF FF FF FF FF FF";
-        reads("plain", "C1 01 00 00 80 00 00 00 00 00 00 01", Long.MIN_VALUE + 1);
-        reads("narrow by 64 bits wraps", "C1 01 00 01 01 40" + ones, -2L);
-        reads("a greatest varint", "C1 01 00 01 FF FF FF FF FF FF FF FF FF 01 00", Long.MIN_VALUE);
-        reads("a varint longer than need be", "C1 01 00 01 8A 80 00 00", 5L);
-        reads("a varint of ten bytes for 0", "C1 01 00 01 80 80 80 80 80 80 80 80 80 00 00", 0L);
-        reads("bits that fill up", "C1 03 00 01 0A 02 E4", 5L, 6L, 7L);
-        reads("a missing flag without one", "C1 02 01 FC 01 0A 01 02", 5L, 6L);
-        reads("patched by 64 bits", "C1 01 00 02 01 40 00" + ones, -2L);
-        reads("patched: all are", "C1 02 00 02 00 00 02 00 0A 01 0C", 5L, 6L);
-        reads("patched: bits at a place", "C1 02 00 02 00 01 01 00 0A 03", 5L, 1L);
-        reads("patched: no base among them", "C1 02 00 02 C8 01 02 00 08", 100L, 102L);
-        reads("steps of one", "C1 01 00 03 01 0A 00", 5L);
-        reads("runs of one", "C1 01 00 04 01 01 0A 00 01 02 00", 5L);
-        reads("runs of like ones", "C1 03 00 04 02 01 0A 00 01 02 01 02", 5L, 5L, 5L);
-        reads("lengths by 64 bits", "C1 02 00 04 01 01 0A 00 01 00 40 02 00 00 00 00 00 00 00", 5L, 5L);
-        reads("list of one", "C1 03 00 05 01 01 0A 00", 5L, 5L, 5L);
-        reads("list, falling, and more than used", "C1 03 00 05 03 00 00 00 00 00 00 00 00 09 00 00 00 00 00 00 00 08"
-                + " 00 00 00 00 00 00 00 08 04", 9L, 8L, 9L);
-        reads("shares", "C1 02 00 06 02 01 05 02 00", -6L, -6L);
-        reads("shares with a greatest divisor", "C1 01 00 06 FF FF FF FF FF FF FF FF FF 01 01 0A 00", -5L);
-        reads("shares of zeros", "C1 02 00 06 05 01 00 00", 0L, 0L);
-        reads("three deep", "C1 03 00 03 06 03 01 02 00", 3L, 6L, 9L);
-        PackedColumns x = new PackedColumns();
-        due("no values, all turns", loaded(x, 0, checked("C1 01 01 01 03 06 05 02 00 00 00")), 1);
-        due("has", x.has(0, 0), 0);
-        due("work", x.piece(0, 0, 2), 0);
-        x = new PackedColumns();
-        loaded(x, 0, checked("C1 04 00 04 02 04 01 02 0A 00 01 00 0E 01 04 00 01 04 00"));
-        due("runs in runs", x.get(0, 3), 7L);
-        due("their work", x.piece(0, 0, 2), 4 + 2 + (2 + 1 + (1 + 1)));
-    }
-
-    private static void fails(String what, String hex, int kind, int place) {
-        PackedColumns x = new PackedColumns();
-        due(what, loaded(x, 0, hex), NONE);
-        due(what + ": its fault", x.fault(0), kind);
-        due(what + ": its place", x.fault(1), place);
-        due(what + ": rows", x.count(0, 0), 0);
-    }
-
-    private static void faults() {
-        promise = 24;
-        fails("no byte", "", 1, 0);
-        fails("the first byte", "C0 01 00", 2, 0);
-        fails("rows lack", "C1", 1, 1);
-        fails("rows 0", "C1 00 02", 2, 1);
-        fails("rows 33", "C1 21 02", 2, 1);
-        fails("the flag lacks", "C1 20", 1, 2);
-        fails("the flag 2", "C1 20 02", 2, 2);
-        fails("missing bits lack", "C1 09 01 FF", 1, 4);
-        fails("a turn lacks", "C1 01 00", 1, 3);
-        fails("a turn 7", "C1 01 00 07", 3, 3);
-        fails("a turn 255", "C1 01 00 FF", 3, 3);
-        fails("plain lacks", "C1 02 00 00 01 02 03 04 05 06 07 08 09", 1, 13);
-        fails("a varint lacks", "C1 01 00 01 80", 1, 5);
-        fails("nine bytes of a varint", "C1 01 00 01 FF FF FF FF FF FF FF FF FF", 1, 13);
-        fails("a varint of 65 bits", "C1 01 00 01 80 80 80 80 80 80 80 80 80 02 00", 2, 4);
-        fails("a varint of eleven bytes", "C1 01 00 01 80 80 80 80 80 80 80 80 80 80 00", 2, 4);
-        fails("narrow: w lacks", "C1 01 00 01 00", 1, 5);
-        fails("narrow: w 65", "C1 01 00 01 00 41", 2, 5);
-        fails("narrow: bits lack", "C1 02 00 01 00 05 00", 1, 7);
-        fails("patched: w 65", "C1 02 00 02 00 41", 2, 5);
-        fails("patched: k above m", "C1 02 00 02 00 00 03", 2, 6);
-        fails("patched: a place of m", "C1 02 00 02 00 00 01 02", 2, 7);
-        fails("patched: a place twice", "C1 02 00 02 00 00 02 00 00 00", 2, 9);
-        fails("patched: a place below", "C1 03 00 02 00 00 02 02 00 01", 2, 9);
-        fails("patched: a varint of 65 bits", "C1 02 00 02 00 00 01 00 FF FF FF FF FF FF FF FF FF 02", 2, 8);
-        fails("patched: k of no values", "C1 01 01 01 02 00 00 01", 2, 7);
-        fails("steps: another turn lacks", "C1 02 00 03", 1, 4);
-        fails("four deep", "C1 02 00 03 03 03 01 00 00", 3, 6);
-        fails("four deep lacks", "C1 02 00 03 03 03", 1, 6);
-        fails("runs: k 0", "C1 02 00 04 00", 2, 4);
-        fails("runs: k above m", "C1 02 00 04 03", 2, 4);
-        fails("runs: of no values", "C1 01 01 01 04 00", 2, 5);
-        fails("runs: lengths' byte 0", "C1 02 00 04 01 01 0A 00 00", 3, 8);
-        fails("runs: lengths' byte 2", "C1 02 00 04 01 01 0A 00 02", 3, 8);
-        fails("runs: fewer than m", "C1 02 00 04 01 01 0A 00 01 02 00", 2, 8);
-        fails("runs: more than m", "C1 02 00 04 01 01 0A 00 01 06 00", 2, 8);
-        fails("runs: one of 0", "C1 02 00 04 02 01 0A 00 01 00 02 08", 2, 8);
-        fails("runs: one below 0", "C1 02 00 04 02 01 0A 00 01 01 03 20", 2, 8);
-        fails("runs: w 65", "C1 02 00 04 01 01 0A 00 01 02 41", 2, 10);
-        fails("runs: lengths lack", "C1 02 00 04 02 01 0A 00 01 00 02", 1, 11);
-        fails("runs: their sum wraps", "C1 03 00 04 03 01 0A 00 01 00 40 FF FF FF FF FF FF FF 7F"
-                + " FF FF FF FF FF FF FF 7F 05 00 00 00 00 00 00 00", 2, 8);
-        fails("list: k 0", "C1 02 00 05 00", 2, 4);
-        fails("list: k above m", "C1 02 00 05 03", 2, 4);
-        fails("list: of no values", "C1 01 01 01 05 01", 2, 5);
-        fails("list: a number of k", "C1 03 00 05 03 01 0A 00 30", 2, 8);
-        fails("list: a number of k far behind", "C1 06 00 05 03 01 0A 00 00 0C", 2, 8);
-        fails("list: numbers lack", "C1 06 00 05 03 01 0A 00 30", 1, 9);
-        fails("shares: a divisor 0", "C1 02 00 06 00", 2, 4);
-        fails("shares: a divisor 1", "C1 02 00 06 01", 2, 4);
-        fails("shares: a long 0", "C1 02 00 06 80 80 00", 2, 4);
-        fails("shares: a varint of 65 bits", "C1 02 00 06 FF FF FF FF FF FF FF FF FF 03", 2, 4);
-        fails("the check lacks", "C1 03 00 01 0A 02 24", 1, 7);
-        int[] right = bytesOf(checked("C1 03 00 01 0A 02 24"));
-        String other = String.format(" %02X", (right[7] + 1) % 256);
-        fails("the check is another one", "C1 03 00 01 0A 02 24" + other, 4, 7);
-        fails("it is another one, with bytes behind", "C1 03 00 01 0A 02 24" + other + " 00", 4, 7);
-        fails("a byte behind", checked("C1 03 00 01 0A 02 24") + " 00", 4, 8);
-        fails("two bytes behind", checked("C1 03 00 01 0A 02 24") + " 00 00", 4, 8);
-        fails("a value is another one", "C1 03 00 01 0C 02 24" + String.format(" %02X", right[7]), 4, 7);
-    }
-
-    private static void faultAnswers() {
-        promise = 24;
-        PackedColumns x = new PackedColumns();
-        due("ahead of any", x.fault(0), 0);
-        due("its place", x.fault(1), NONE);
-        due("what 2", x.fault(2), NONE);
-        due("what -1", x.fault(-1), NONE);
-        loaded(x, 0, "C1 02 00 01 00");
-        due("a fault", x.fault(0), 1);
-        due("its place", x.fault(1), 5);
-        x.value(0, 1L);
-        x.pack(0);
-        x.set(0, 0, 3L);
-        due("get", x.get(0, 0), 3L);
-        due("it stays", x.fault(0), 1);
-        due("its place stays", x.fault(1), 5);
-        due("what 2", x.fault(2), NONE);
-        loaded(x, 0, checked("C1 03 00 01 0A 02 24"));
-        due("without", x.fault(0), 0);
-        due("its place", x.fault(1), NONE);
-        loaded(x, 4, "C1 21");
-        due("with no such column, too", x.fault(0), 2);
-        due("its place", x.fault(1), 1);
-        loaded(x, 4, checked("C1 03 00 01 0A 02 24"));
-        due("without again", x.fault(0), 0);
-        due("its place", x.fault(1), NONE);
-    }
-
-    /** Numbers as far out as can be: all are refused, and nothing is thrown or changed. */
-    private static void farNumbers() {
-        PackedColumns x = new PackedColumns();
-        repeat(x, 40, 5L);
-        x.front(0, 0);
-        int[] far = {Integer.MIN_VALUE, Integer.MIN_VALUE + 1, -1000000, -1, 1000000, Integer.MAX_VALUE - 1,
-            Integer.MAX_VALUE};
-        for (int n : far) {
-            String of = " of " + n;
-            for (promise = 1; promise <= 24; promise++) {
-                for (int place = 0; place < 7; place++) {
-                    farCall(x, n, place, of);
+        says("23 The tape (it goes): with its ROWS read, with a FAULT, with -2", () -> {
+            Store x = new Store();
+            lay(x, THREE);
+            due(x.load(0), 3);
+            taped(x, 0);
+            lay(x, THREE + " 00");
+            due(x.load(0), -1);
+            taped(x, 0);
+            lay(x, THREE);
+            due(x.load(4), -2);
+            taped(x, 0);
+            due(x.load(0), -1);
+        });
+        says("23 load: -1 with a FAULT: no ROW comes", () -> {
+            Store x = packed(9L);
+            due(loaded(x, 0, THREE + " 00"), -1);
+            due(x.load(0), -1);
+            rows(x, 0, 9L);
+            due(x.piece(0, 0, 4), 0);
+        });
+        says("23 load: -1 with a FAULT stands ahead of -2: of a COLUMN that is none", () -> {
+            for (int c : NO_COLUMNS) {
+                Store x = new Store();
+                due(x.load(c), -1);
+                faulted(x, 1, 0);
+                due(loaded(x, c, "C2 03"), -1);
+                faulted(x, 2, 0);
+                due(loaded(x, c, checked("C1 01 00 07")), -1);
+                faulted(x, 3, 3);
+                due(loaded(x, c, THREE + " 00"), -1);
+                faulted(x, 4, 8);
+            }
+        });
+        says("23 load: -1 with a FAULT stands ahead of -2: of a full COLUMN", () -> {
+            Store x = full();
+            due(x.load(0), -1);
+            faulted(x, 1, 0);
+            due(loaded(x, 0, THREE + " 00"), -1);
+            faulted(x, 4, 8);
+        });
+        says("23 load: -2 there is none such", () -> {
+            for (int c : NO_COLUMNS) {
+                Store x = new Store();
+                due(loaded(x, c, THREE), -2);
+                faulted(x, 0, NONE);
+                for (int other = 0; other < 4; other++) {
+                    due(x.count(other, 0), 0);
                 }
             }
-        }
-        promise = 1;
-        due("rows are as they were", x.count(0, 0), 40);
-        due("values are as they were", x.sum(0, Long.MIN_VALUE, Long.MAX_VALUE), 200);
-        due("missing ones are as they were", x.count(0, 2), 0);
+        });
+        says("23 load: -2 .. there would be more than 160", () -> {
+            Store x = new Store();
+            x.sow(0, 64, 0, 0L, 1L, 1, 0L);
+            x.sow(0, 64, 0, 0L, 1L, 1, 0L);
+            x.sow(0, 30, 0, 0L, 1L, 1, 0L);
+            due(loaded(x, 0, THREE), -2);
+            faulted(x, 0, NONE);
+            due(x.count(0, 0), 158);
+            due(loaded(x, 0, FIVES), -2);
+            due(loaded(x, 0, checked("C1 01 00 01 0A 00")), 159);
+            due(loaded(x, 0, checked("C1 02 00 01 0A 00")), -2);
+            due(x.piece(0, 4, 4), 1);
+            due(x.piece(0, 4, 0), 31);
+        });
+        says("23 load: -2 .. more than 160: not with 160", () -> {
+            Store x = new Store();
+            x.sow(0, 64, 0, 0L, 1L, 1, 0L);
+            x.sow(0, 64, 0, 0L, 1L, 1, 0L);
+            x.sow(0, 29, 0, 0L, 1L, 1, 0L);
+            due(loaded(x, 0, THREE), 160);
+            due(x.piece(0, 4, 4), 0);
+            due(x.get(0, 159), 7L);
+            due(loaded(x, 0, checked("C1 01 00 01 0A 00")), -2);
+        });
+        says("23 load: -2 .. more than 160: five whole PIECES, and no ROW more", () -> {
+            Store x = new Store();
+            for (int p = 1; p <= 5; p++) {
+                due(loaded(x, 0, FIVES), 32 * p);
+            }
+            due(loaded(x, 0, FIVES), -2);
+            due(loaded(x, 0, checked("C1 01 00 01 0A 00")), -2);
+            due(x.count(0, 0), 160);
+        });
+        says("23 load: -2: a short PACKED PIECE stays so", () -> {
+            Store x = new Store();
+            for (int p = 1; p < 5; p++) {
+                loaded(x, 0, FIVES);
+            }
+            due(loaded(x, 0, THREE), 131);
+            due(loaded(x, 0, FIVES), -2);
+            due(x.piece(0, 4, 4), 0);
+            due(x.piece(0, 4, 1), 8);
+        });
     }
 
-    private static void farCall(PackedColumns x, int n, int place, String of) {
-        int a = place == 0 ? n : 0;
-        int b = place == 1 ? n : 0;
-        int c = place == 2 ? n : 0;
-        boolean two = place < 2;
-        boolean three = place < 3;
-        switch (promise) {
-            case 3 -> no("end" + of, x.end(n));
-            case 4 -> no("way" + of, x.way(a, b, three && place == 2 ? n : place > 2 ? 0 : 100));
-            case 5 -> due("value" + of, x.value(n, 1L), NONE);
-            case 6 -> due("missing" + of, x.missing(n), NONE);
-            case 7 -> due("sow" + of, x.sow(a, place == 1 ? n : 1, 0, n, n, place > 1 ? n == 1000000 ? 0 : n : 1, n),
-                    NONE);
-            case 8 -> due("set" + of, two ? x.set(a, b, n) : NONE, NONE);
-            case 9 -> due("pack" + of, x.pack(n), NONE);
-            case 10 -> due("clear" + of, x.clear(n), NONE);
-            case 11 -> due("count" + of, two ? x.count(a, b) : NONE, NONE);
-            case 12 -> due("has" + of, two ? x.has(a, b) : NONE, NONE);
-            case 13 -> due("get" + of, two ? x.get(a, b) : 0, 0);
-            case 14 -> due("piece" + of, three ? x.piece(a, b, c) : NONE, NONE);
-            case 15 -> due("at" + of, three ? x.at(a, b, c) : NONE, NONE);
-            case 16 -> due("code" + of, three ? x.code(a, b, c) : NONE, NONE);
-            case 17 -> due("front" + of, two ? x.front(a, b) : NONE, NONE);
-            case 18 -> due("pair" + of, two ? x.pair(a, b) : NONE, NONE);
-            case 19 -> due("among" + of, x.among(n, 0L, 1L), NONE);
-            case 20 -> due("sum" + of, x.sum(n, 0L, 9L), 0);
-            case 22 -> due("take" + of, two ? x.take(a, b) : NONE, NONE);
-            case 23 -> {
-                due("load" + of, loaded(x, n, checked("C1 03 00 01 0A 02 24")), -2);
-                due("load of no byte" + of, x.load(n), -1);
+    /** Its rows are 10, 16 and a missing one; no way would write it so. */
+    private static final String ODD = "C1 03 01 04 03 02 0A 40 00 05 00 00 00 00 00 00 00 01 00 00 00 00 00 00 00";
+
+    private static void loadKeeps() {
+        says("23 its ROWS come behind those of the COLUMN: how many ROWS the COLUMN has then", () -> {
+            Store x = new Store();
+            due(loaded(x, 0, THREE), 3);
+            rows(x, 0, 5L, 6L, 7L);
+            due(loaded(x, 3, checked(ODD)), 3);
+            rows(x, 3, 10L, 16L, null);
+        });
+        says("23 (these bytes are kept, if the COLUMN's ROWS were whole PIECES: of none", () -> {
+            Store x = new Store();
+            due(loaded(x, 0, checked(ODD)), 3);
+            written(x, 0, ODD);
+            coded(x, 0, 3, 2);
+            worked(x, 0, 4);
+            due(x.piece(0, 0, 0), 3);
+            due(x.piece(0, 0, 3), 0);
+            due(x.piece(0, 0, 4), 0);
+            due(x.count(0, 2), 1);
+            due(x.take(0, 0), 26);
+        });
+        says("23 (these bytes are kept, if the COLUMN's ROWS were whole PIECES: of 32, and of 128", () -> {
+            Store x = new Store();
+            repeat(x, 0, 32, 5L);
+            due(loaded(x, 0, checked(ODD)), 35);
+            written(x, 1, ODD);
+            due(x.piece(0, 1, 4), 0);
+            x.clear(0);
+            x.sow(0, 64, 1, 1L, 0L, 1, 0L);
+            x.sow(0, 64, 1, 1L, 0L, 1, 0L);
+            due(loaded(x, 0, checked(ODD)), 131);
+            written(x, 4, ODD);
+        });
+        says("23 (these bytes are kept: where there was another PIECE, with CHANGES", () -> {
+            Store x = packed(1L, 2L, 3L);
+            x.set(0, 0, 77L);
+            x.clear(0);
+            due(loaded(x, 0, THREE), 3);
+            due(x.piece(0, 0, 3), 0);
+            rows(x, 0, 5L, 6L, 7L);
+        });
+        says("23 (these bytes are kept: the next ROW opens a short one", () -> {
+            Store x = new Store();
+            loaded(x, 0, checked(ODD));
+            due(x.value(0, 3L), 3);
+            due(x.piece(0, 0, 4), 1);
+            rows(x, 0, 10L, 16L, null, 3L);
+        });
+    }
+
+    private static void loadUnpacks() {
+        says("23 else each is as by value(), missing(), so that the last PIECE is OPEN again: behind an OPEN one", () -> {
+            Store x = with(1L);
+            due(loaded(x, 0, checked(ODD)), 4);
+            rows(x, 0, 1L, 10L, 16L, null);
+            due(x.piece(0, 0, 4), 1);
+            due(x.piece(0, 0, 1), 0);
+        });
+        says("23 else each is as by value(), missing(), so that the last PIECE is OPEN again: behind a short PACKED one", () -> {
+            Store x = new Store();
+            loaded(x, 0, checked(ODD));
+            due(x.set(0, 1, 7L), 1);
+            due(loaded(x, 0, checked(ODD)), 6);
+            rows(x, 0, 10L, 7L, null, 10L, 16L, null);
+            due(x.piece(0, 0, 4), 1);
+            due(x.piece(0, 0, 3), 0);
+        });
+        says("23 else each is as by value(), missing(): the 32nd ROW packs by THE WAY", () -> {
+            Store x = new Store();
+            x.way(0, 0, 32);
+            repeat(x, 0, 31, 5L);
+            due(loaded(x, 0, checked("C1 01 00 03 00 00 00 00 00 00 00 00 05")), 32);
+            due(x.piece(0, 0, 4), 0);
+            written(x, 0, "C1 20 00 01 0A 00");
+        });
+        says("23 else each is as by value(), missing(): over a PIECE's end", () -> {
+            Store x = new Store();
+            repeat(x, 0, 30, 5L);
+            due(loaded(x, 0, checked(ODD)), 33);
+            due(x.piece(0, 0, 4), 0);
+            due(x.piece(0, 0, 0), 32);
+            due(x.piece(0, 1, 4), 1);
+            due(x.piece(0, 1, 0), 1);
+            due(x.get(0, 30), 10L);
+            due(x.get(0, 31), 16L);
+            due(x.has(0, 32), 0);
+        });
+        says("23 else each is as by value(), missing(): 32 ROWS behind 31, and behind 1", () -> {
+            Store x = new Store();
+            repeat(x, 0, 31, 6L);
+            due(loaded(x, 0, FIVES), 63);
+            due(x.get(0, 30), 6L);
+            due(x.get(0, 31), 5L);
+            due(x.piece(0, 1, 4), 1);
+            due(x.piece(0, 1, 0), 31);
+            x.value(1, 6L);
+            due(loaded(x, 1, FIVES), 33);
+            due(x.piece(1, 0, 4), 0);
+            due(x.piece(1, 1, 4), 1);
+            due(x.get(1, 32), 5L);
+        });
+    }
+
+    private static void fault() {
+        says("24 Of the latest load(): its FAULT (what 0; .. ), its place (1; ..)", () -> {
+            Store x = new Store();
+            loaded(x, 0, "C1 02 00 01 00");
+            faulted(x, 1, 5);
+            loaded(x, 0, "C1 21");
+            faulted(x, 2, 1);
+            loaded(x, 0, "C1 01 00 07");
+            faulted(x, 3, 3);
+            loaded(x, 0, THREE + " 00");
+            faulted(x, 4, 8);
+        });
+        says("24 fault: 0 .. ahead of any; its place NONE", () -> {
+            Store x = new Store();
+            faulted(x, 0, NONE);
+            x.value(0, 1L);
+            x.pack(0);
+            x.get(0, 0);
+            faulted(x, 0, NONE);
+        });
+        says("24 fault: 0 without; its place NONE without: behind one with a FAULT", () -> {
+            Store x = new Store();
+            loaded(x, 0, "C1 21");
+            loaded(x, 0, THREE);
+            faulted(x, 0, NONE);
+            loaded(x, 0, "C1 21");
+            faulted(x, 2, 1);
+            loaded(x, 4, THREE);
+            faulted(x, 0, NONE);
+        });
+        says("24 fault: it stays with other calls", () -> {
+            Store x = new Store();
+            loaded(x, 0, "C1 02 00 01 00");
+            x.value(0, 1L);
+            x.pack(0);
+            x.set(0, 0, 3L);
+            x.get(0, 0);
+            x.take(0, 0);
+            x.feed(1, 2, 3, 4, 5);
+            x.end(0);
+            x.among(0, 0L, 1L);
+            x.front(0, 0);
+            x.clear(0);
+            faulted(x, 1, 5);
+        });
+        says("24 fault: NONE for another what", () -> {
+            Store x = new Store();
+            due(x.fault(2), NONE);
+            for (int far : FAR) {
+                due(x.fault(far), NONE);
             }
-            case 24 -> due("fault" + of, x.fault(n), NONE);
-            default -> { }
-        }
+            loaded(x, 0, "C1 21");
+            due(x.fault(2), NONE);
+            due(x.fault(-1), NONE);
+            due(x.fault(3), NONE);
+        });
+    }
+
+    private static void farNumbers() {
+        says("No call throws, for any arguments: the ends of ints and longs in each place", () -> {
+            int[] ints = {Integer.MIN_VALUE, -1, 0, 1, 2, Integer.MAX_VALUE};
+            long[] longs = {LEAST, -1L, 0L, GREATEST};
+            for (int a : ints) {
+                for (int b : ints) {
+                    for (int c : ints) {
+                        Store x = gapped();
+                        callEach(x, a, b, c, longs[(a + b + c & 3)]);
+                        due("rows", x.count(0, 0) < 0 ? 1 : 0, 0);
+                    }
+                }
+            }
+        });
+        says("A refused call changes nothing: numbers far out in each place", () -> {
+            for (int n : FAR) {
+                Store x = new Store();
+                repeat(x, 0, 40, 5L);
+                x.front(0, 0);
+                farCalls(x, n);
+                due(x.count(0, 0), 40);
+                due(x.count(0, 2), 0);
+                due(x.sum(0, LEAST, GREATEST), 200L);
+                pairs(x, 7, 32);
+            }
+        });
+    }
+
+    private static void callEach(Store x, int a, int b, int c, long v) {
+        x.feed(a, b, c, a, b);
+        x.end(a);
+        x.load(a);
+        x.way(a, b, c);
+        x.set(a, b, v);
+        x.value(a, v);
+        x.missing(a);
+        x.sow(a, b, c, v, v, c, v);
+        x.pack(a);
+        x.count(a, b);
+        x.has(a, b);
+        x.get(a, b);
+        x.piece(a, b, c);
+        x.at(a, b, c);
+        x.code(a, b, c);
+        x.front(a, b);
+        x.pair(a, b);
+        x.among(a, v, -v);
+        x.sum(a, -v, v);
+        x.looked();
+        x.take(a, b);
+        x.load(b);
+        x.fault(a);
+        x.clear(a);
+    }
+
+    private static void farCalls(Store x, int n) {
+        no(x.end(n));
+        no(x.way(0, n, 100));
+        no(x.way(0, 0, n));
+        due(x.sow(0, n, 0, n, n, 1, n), NONE);
+        due(x.set(0, n, 6L), NONE);
+        due(x.count(0, n), NONE);
+        due(x.has(0, n), NONE);
+        due(x.get(0, n), 0L);
+        due(x.piece(0, n, 0), NONE);
+        due(x.piece(0, 0, n), NONE);
+        due(x.at(0, n, 0), NONE);
+        due(x.at(0, 0, n), NONE);
+        due(x.code(0, n, 0), NONE);
+        due(x.code(0, 0, n), NONE);
+        due(x.front(0, n), NONE);
+        due(x.pair(n, 0), NONE);
+        due(x.pair(0, n), NONE);
+        due(x.take(0, n), NONE);
+        due(x.fault(n), NONE);
+        due(loaded(x, n, THREE), -2);
     }
 }
