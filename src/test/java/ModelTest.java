@@ -37,8 +37,8 @@ public final class ModelTest {
         void due(long got, long want) {
             if (got != want && wrong < 20) {
                 wrong++;
-                System.out.println("run " + number + ", call " + tried.calls() + ": " + Store.latest + " answered " + got
-                        + ", due is " + want);
+                System.out.println("run " + number + ", call " + tried.calls() + ": " + Store.latest + " answered "
+                        + got + ", due is " + want);
             }
         }
 

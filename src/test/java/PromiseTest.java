@@ -540,7 +540,8 @@ public final class PromiseTest extends Checks {
             due(x.get(0, 3), 6L);
             due(x.get(0, 39), 7L);
         });
-        says("9 All PIECES of a COLUMN are packed anew: also one without CHANGES, with DEPTH and LIMIT as they are", () -> {
+        says("9 All PIECES of a COLUMN are packed anew: also one without CHANGES, with DEPTH and LIMIT as"
+                + " they are", () -> {
             Store x = full();
             due(x.count(0, 3), 55);
             x.way(0, 0, 32);
@@ -845,7 +846,8 @@ public final class PromiseTest extends Checks {
     }
 
     private static void piece() {
-        says("14 Of a PIECE: 0 ROWS, 1 bytes .., 2 WORK of its bytes .., 3 CHANGES, 4 whether it is OPEN: a PACKED one", () -> {
+        says("14 Of a PIECE: 0 ROWS, 1 bytes .., 2 WORK of its bytes .., 3 CHANGES, 4 whether it is OPEN: a"
+                + " PACKED one", () -> {
             Store x = new Store();
             repeat(x, 0, 33, 5L);
             int[] due = {32, 7, 32, 0, 0};
@@ -858,7 +860,8 @@ public final class PromiseTest extends Checks {
             due(x.piece(0, 0, 1), 7);
             due(x.piece(0, 0, 2), 32);
         });
-        says("14 Of a PIECE: .. 1 bytes (0 of an OPEN one), 2 WORK .. (NONE of an OPEN one), .. 4 .. OPEN (1, 0)", () -> {
+        says("14 Of a PIECE: .. 1 bytes (0 of an OPEN one), 2 WORK .. (NONE of an OPEN one), .. 4 .. OPEN"
+                + " (1, 0)", () -> {
             Store x = new Store();
             repeat(x, 0, 33, 5L);
             x.set(0, 32, 6L);
@@ -983,11 +986,30 @@ public final class PromiseTest extends Checks {
     }
 
     private static void front() {
-        says("17 The FRONT: pairs .. than which none has fewer of one and not more of the other; how many unlike ones", () -> {
+        says("17 The FRONT: pairs .. than which none has fewer of one and not more of the other; how many"
+                + " unlike ones", () -> {
             Store x = new Store();
             sowSteps(x, 0);
             due(x.front(0, 0), 3);
             pairs(x, 11, 65, 16, 64, 35, 32);
+        });
+        says("17 The FRONT: none of those with as many bytes and more WORK; like pairs once", () -> {
+            Store x = with(70L, 1L, 1L, 1L, 10000000L, 10000000L, 10000000L, 10000000L);
+            due(x.front(0, 0), 2);
+            pairs(x, 20, 11, 31, 8);
+            x = with(1L << 41);
+            due(x.front(0, 0), 1);
+            pairs(x, 13, 1);
+            x = with(5L, 1000L, 1000L, 5L, 1000L);
+            due(x.front(0, 0), 2);
+            pairs(x, 13, 7, 14, 5);
+        });
+        says("17 The FRONT: of many pairs", () -> {
+            Store x = new Store();
+            x.sow(0, 16, 0, 0L, 1L, 1, 0L);
+            x.sow(0, 16, 0, 1000015L, 1000000L, 1, 0L);
+            due(x.front(0, 0), 7);
+            pairs(x, 16, 98, 21, 71, 23, 70, 24, 68, 26, 67, 88, 64, 103, 32);
         });
         says("17 The FRONT of a PIECE's VALUES, as they are: with CHANGES", () -> {
             Store x = new Store();
@@ -1267,13 +1289,15 @@ public final class PromiseTest extends Checks {
     }
 
     private static void lookedByEnds() {
-        says("21 all but those without a VALUE from least up to greatest by their ends: the greatest is below least", () -> {
+        says("21 all but those without a VALUE from least up to greatest by their ends: the greatest is"
+                + " below least", () -> {
             Store x = threePieces();
             unpacked(x, 131L, 400L, 1, 1);
             unpacked(x, 132L, 400L, 0, 0);
             unpacked(x, GREATEST, GREATEST, 0, 0);
         });
-        says("21 all but those without a VALUE from least up to greatest by their ends: the least is above greatest", () -> {
+        says("21 all but those without a VALUE from least up to greatest by their ends: the least is above"
+                + " greatest", () -> {
             Store x = threePieces();
             unpacked(x, -5L, 0L, 1, 1);
             unpacked(x, -5L, -1L, 0, 0);
@@ -1574,14 +1598,16 @@ public final class PromiseTest extends Checks {
     }
 
     private static void loadUnpacks() {
-        says("23 else each is as by value(), missing(), so that the last PIECE is OPEN again: behind an OPEN one", () -> {
+        says("23 else each is as by value(), missing(), so that the last PIECE is OPEN again: behind an OPEN"
+                + " one", () -> {
             Store x = with(1L);
             due(loaded(x, 0, checked(ODD)), 4);
             rows(x, 0, 1L, 10L, 16L, null);
             due(x.piece(0, 0, 4), 1);
             due(x.piece(0, 0, 1), 0);
         });
-        says("23 else each is as by value(), missing(), so that the last PIECE is OPEN again: behind a short PACKED one", () -> {
+        says("23 else each is as by value(), missing(), so that the last PIECE is OPEN again: behind a short"
+                + " PACKED one", () -> {
             Store x = new Store();
             loaded(x, 0, checked(ODD));
             due(x.set(0, 1, 7L), 1);

@@ -33,6 +33,7 @@ public final class ReadingTest extends Checks {
         turns();
         checks();
         orders();
+        within();
         readThough();
         finish();
     }
@@ -46,9 +47,10 @@ public final class ReadingTest extends Checks {
         due(hex + ": rows", x.count(0, 0), 1);
     }
 
-    /** These bytes have this fault, with a right check byte behind them, too. */
+    /** These bytes have this fault, whether the check byte is behind them or lacks. */
     private static void unfit(String hex, int place) {
         faults(checked(hex), UNFIT, place);
+        faults(hex, UNFIT, place);
     }
 
     /** Every byte from least up to most, put behind these, has this fault at it. */
@@ -204,7 +206,8 @@ public final class ReadingTest extends Checks {
             reads("C1 03 00 02 0A 00 01 02 0C", 5L, 5L, 6L);
             reads("C1 03 00 02 0A 00 01 00 0C", 6L, 5L, 5L);
         });
-        says("III. 2 a place not below m: m is how many VALUES are not MISSING", () -> unfit("C1 03 01 01 02 0A 00 01 02 0C", 8));
+        says("III. 2 a place not below m: m is how many VALUES are not MISSING", () ->
+                unfit("C1 03 01 01 02 0A 00 01 02 0C", 8));
         says("III. 2 a place not above the one ahead of it: the same", () -> {
             unfit("C1 03 00 02 0A 00 02 01 0C 01 0E", 9);
             unfit("C1 03 00 02 0A 00 02 00 0C 00 0E", 9);
@@ -318,7 +321,8 @@ public final class ReadingTest extends Checks {
             Store x = new Store();
             due(loaded(x, 0, checked("C1 20 00 05 11 01 0A 00" + times(19, "00") + " 80")), 32);
         });
-        says("III. 2 a number in a LIST: what fills the LAYING up is none", () -> reads("C1 03 00 05 03 01 0A 02 24 C0", 5L, 5L, 5L));
+        says("III. 2 a number in a LIST: what fills the LAYING up is none", () ->
+                reads("C1 03 00 05 03 01 0A 02 24 C0", 5L, 5L, 5L));
         says("III. 2 a number in a LIST of one has no bits", () -> reads("C1 03 00 05 01 01 0A 00", 5L, 5L, 5L));
     }
 
@@ -409,6 +413,49 @@ public final class ReadingTest extends Checks {
             unfit("C1 03 00 04 02 05 02 01 0A 00 00 01 00 02 0C", 11);
             unfit("C1 05 00 05 04 04 02 01 0A 00 01 02 00 FF FF", 10);
             unfit("C1 06 00 05 05 05 03 01 0A 00 FF 03 FF FF FF", 10);
+        });
+    }
+
+    private static void within() {
+        says("III. READING: PLAIN behind many bytes", () -> {
+            Store x = new Store();
+            due(loaded(x, 0, checked("C1 20 01 FE FF FF 7F 00 01 23 45 67 89 AB CD EF FE DC BA 98 76 54 32 10")), 32);
+            due(x.get(0, 0), 0x0123456789ABCDEFL);
+            due(x.has(0, 1), 0);
+            due(x.get(0, 31), 0xFEDCBA9876543210L);
+            reads("C1 02 00 06 80 80 80 80 01 03 00 00 00 00 00 00 00 00 05 00 00 00 00 00 00 00 01", 5L << 28, 6L << 28);
+        });
+        says("III. READING: a TURN in its like", () -> {
+            reads("C1 04 00 05 03 05 02 01 0A 01 02 01 24", 6L, 5L, 5L, 6L);
+            reads("C1 05 00 04 03 04 02 01 0A 01 02 01 02 01 02 01 02 01 06", 5L, 6L, 6L, 6L, 6L);
+            reads("C1 03 00 03 03 01 02 01 04", 1L, 3L, 7L);
+            reads("C1 02 00 06 03 06 05 01 02 01 02", 15L, 30L);
+        });
+        says("III. READING: RUNS in LIST, LIST in RUNS", () -> {
+            reads("C1 04 00 05 03 04 02 01 0A 01 02 01 02 01 02 12", 6L, 5L, 6L, 5L);
+            reads("C1 05 00 04 03 05 02 01 0A 01 02 02 01 02 01 06", 5L, 6L, 6L, 5L, 5L);
+        });
+        says("III. READING: PIECES one behind the other, each by itself", () -> {
+            Store x = new Store();
+            due(loaded(x, 0, checked("C1 04 00 05 02 01 0A 01 02 05")), 4);
+            due(loaded(x, 1, checked("C1 03 00 05 02 01 14 01 02 03")), 3);
+            due(loaded(x, 2, checked("C1 03 00 04 02 01 28 01 02 01 02 01 02")), 3);
+            due(loaded(x, 3, checked("C1 02 00 05 02 01 50 01 02 01")), 2);
+            rows(x, 0, 6L, 5L, 6L, 5L);
+            rows(x, 1, 11L, 11L, 10L);
+            rows(x, 2, 20L, 21L, 21L);
+            rows(x, 3, 41L, 40L);
+            for (int c = 0; c < 3; c++) {
+                due(x.code(c, 0, 1), 1);
+                due(x.piece(c, 0, 2), c == 0 ? 6 : c == 1 ? 5 : 7);
+            }
+        });
+        says("III. READING: a PIECE behind bytes with a FAULT", () -> {
+            Store x = new Store();
+            due(loaded(x, 0, checked("C1 04 00 05 03 01 0A 02 E4 FF")), NONE);
+            due(loaded(x, 0, checked("C1 04 00 05 02 01 0A 01 02 05")), 4);
+            faulted(x, 0, NONE);
+            rows(x, 0, 6L, 5L, 6L, 5L);
         });
     }
 

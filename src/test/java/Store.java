@@ -1,4 +1,4 @@
-/** A store as it is tested: it keeps the latest call for what is told of it, and has no more calls than are promised. */
+/** A store as it is tested: it keeps the latest call, to tell of it, and takes no more calls than are promised. */
 final class Store {
     static final int MOST_CALLS = 512;
     static String latest = "";

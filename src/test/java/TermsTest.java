@@ -254,7 +254,8 @@ public final class TermsTest extends Checks {
             written(packed(0, 1000, -128L, 127L), 0, "C1 02 00 01 FF 01 08 00 FF");
             written(packed(0, 1000, -128L, 128L), 0, "C1 02 00 01 FF 01 09 00 00 02");
         });
-        says("II. A LAYING: one behind the other, each from its lowest bit on, the first bits being the lowest ones", () ->
+        says("II. A LAYING: one behind the other, each from its lowest bit on, the first bits being the"
+                + " lowest ones", () ->
                 written(packed(0, 1000, 0L, 7L, 5L, 2L), 0, "C1 04 00 01 00 03 78 05"));
         says("II. A LAYING: filled up with 0s to whole bytes", () -> {
             for (int n : new int[] {2, 7, 8, 9, 15, 16, 17, 31, 32}) {
@@ -361,6 +362,13 @@ public final class TermsTest extends Checks {
             written(x, 0, "C1 10 00 02 00 01 02 0E 04 0F 80 C0 A8 CA 9A 3A AA 2A");
             worked(x, 0, 18);
         });
+        says("II. 2 PATCHED: of several the least w: no bit, of the same b and of a greater one", () -> {
+            long far = 1000000000000L;
+            written(packed(0, 1000, 0L, 0L, 0L, 0L, 0L, 0L, 3L, far), 0,
+                    "C1 08 00 02 00 00 02 06 06 07 80 C0 A8 CA 9A 3A");
+            written(packed(0, 1000, -far, 0L, 3L, 3L, 3L, 3L, 3L, 3L), 0,
+                    "C1 08 00 02 06 00 02 00 FF BF A8 CA 9A 3A 01 00");
+        });
         says("II. 2 PATCHED: of several the least w, then the least b", () -> {
             long v = 1000000000000000L;
             Store x = packed(0, 1000, v, v, -v, -v);
@@ -388,7 +396,8 @@ public final class TermsTest extends Checks {
     }
 
     private static void runs() {
-        says("II. 4 RUNS: how many runs there are, their VALUES, then by NARROW (its byte 1, too) how long they are", () -> {
+        says("II. 4 RUNS: how many runs there are, their VALUES, then by NARROW (its byte 1, too) how long"
+                + " they are", () -> {
             Store x = new Store();
             repeat(x, 0, 16, 0x0123456789ABCDEFL);
             repeat(x, 0, 16, FAR_UP);
@@ -444,6 +453,11 @@ public final class TermsTest extends Checks {
         says("II. 5 LIST: the LAYING of each one's number in it by BITS of k - 1: 3 of five", () ->
                 written(listed(5, values), 0, "C1 20 00 05 05 00 " + far + three + low + "06 F0 5B 59 D3 B2 00 00" + up
                         + " C8 A0 30 19 47 02 19 14 26 E3 48 20"));
+        says("II. 5 LIST (m 2 or more): of two like VALUES, by BITS of 0: none", () -> {
+            written(packed(LEAST, LEAST), 0, "C1 02 00 05 01 00 80 00 00 00 00 00 00 00");
+            written(packed(1L << 62, 1L << 62), 0, "C1 02 00 05 01 00 40 00 00 00 00 00 00 00");
+            written(packed((1L << 62) - 1, (1L << 62) - 1), 0, "C1 02 00 01 FE FF FF FF FF FF FF FF 7F 00");
+        });
         says("II. 5 LIST: these, rising: those below 0 ahead of the others", () -> {
             Store x = new Store();
             for (int i = 0; i < 16; i++) {
@@ -531,7 +545,8 @@ public final class TermsTest extends Checks {
             works(6, "C1 03 00 02 0A 00 03 00 0A 01 0C 02 0E");
         });
         says("II. Its WORK: STEPS m and that of the other TURN", () -> works(2 + 3, "C1 02 00 03 02 0A 00 01 01 00"));
-        says("II. Its WORK: SHARES m and that of the other TURN", () -> works(2 + 3, "C1 02 00 06 02 02 0A 00 01 01 00"));
+        says("II. Its WORK: SHARES m and that of the other TURN", () ->
+                works(2 + 3, "C1 02 00 06 02 02 0A 00 01 01 00"));
         says("II. Its WORK: LIST m, and that of the other TURN", () -> works(5 + 2, "C1 05 00 05 02 01 0A 01 02 15"));
         says("II. Its WORK: RUNS m and that of both rows", () -> {
             works(5 + 2 + 2, "C1 05 00 04 02 01 0A 01 02 01 04 01 02");
@@ -617,7 +632,8 @@ public final class TermsTest extends Checks {
             chosen(1, 12, new int[] {6, 1}, 779L, 741L, 703L, 665L, 627L, 589L);
             chosen(2, 10, new int[] {6, 1}, 0L, 0L, 0L, 1000000L, 2000000L);
         });
-        says("II. THE WAY: of these the one with the lesser number where their CODES first differ: at the first", () -> {
+        says("II. THE WAY: of these the one with the lesser number where their CODES first differ: at the"
+                + " first", () -> {
             ofOne(1L << 41, "00 00 00 02 00 00 00 00 00");
             ofOne(-(1L << 41), "01 FF FF FF FF FF 7F 00");
             ofOne(-(1L << 41) - 1, "00 FF FF FD FF FF FF FF FF");
@@ -625,7 +641,8 @@ public final class TermsTest extends Checks {
             chosen(2, 8, new int[] {5, 6, 1}, million, million, 9000L, 9000L);
             chosen(1, 8, new int[] {6, 1}, million, million, 9000L, 9000L);
         });
-        says("II. THE WAY: of these the one with the lesser number where their CODES first differ: at the second", () -> {
+        says("II. THE WAY: of these the one with the lesser number where their CODES first differ: at the"
+                + " second", () -> {
             Store x = new Store();
             int[] times = {4, 3, 3, 6, 4, 4, 3, 1, 4};
             long[] values = {24L, 31L, 32L, 33L, 34L, 41L, 48L, 49L, 50L};
@@ -673,7 +690,8 @@ public final class TermsTest extends Checks {
             x.pack(0);
             written(x, 0, "C1 02 00 01 0A 00");
         });
-        says("II. 0, or 1 and the LAYING of all ROWS by 1 bit (1: MISSING) if one is MISSING: the first and the last", () -> {
+        says("II. 0, or 1 and the LAYING of all ROWS by 1 bit (1: MISSING) if one is MISSING: the first and"
+                + " the last", () -> {
             int[] rows = {7, 8, 9, 31, 32};
             String[] due = {"C1 07 01 41", "C1 08 01 81", "C1 09 01 01 01", "C1 1F 01 01 00 00 40",
                 "C1 20 01 01 00 00 80"};
