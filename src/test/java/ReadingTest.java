@@ -460,6 +460,10 @@ public final class ReadingTest extends Checks {
     }
 
     private static void readThough() {
+        says("II. 2 PATCHED: w as a byte (0 .. 63): 63 of them, with which no WAY is the best", () -> {
+            reads("C1 01 00 02 00 3F 00 FF FF FF FF FF FF FF 7F", GREATEST);
+            reads("C1 02 00 02 00 3F 01 01 03 FF FF FF FF FF FF FF 7F 00 00 00 00 00 00 00 00", GREATEST, -2L);
+        });
         says("III. What is read need not be THE WAY: PATCHED with w 64", () -> {
             reads("C1 01 00 02 04 40 00" + ONES, 1L);
             reads("C1 02 00 02 04 40 01 01 0A" + ONES + ONES, 1L, 5L);
